@@ -56,6 +56,45 @@ final class Check {
         return text.append('/').append(x.sectors()).append('/').append(x.dirty()).toString();
     }
 
+    /**
+     * Fills the file until no cell of 5 units or more is free: the keys 1 to 3 below the root have
+     * the values, of which the first, with the name 0, have the length 30; the keys 4 to 12 lie below
+     * the key 3, each below the one before.
+     */
+    static void fillUp(HiveKeys x) {
+        for (int key = 1; key <= 12; key++) {
+            x.make(key <= 3 ? 0 : key - 1, key);
+        }
+        for (int name = 0; name < 8; name++) {
+            for (int key = 1; key <= 3; key++) {
+                setAsLongAsFits(x, key, name);
+            }
+        }
+        for (int unit = 0; unit < 16 * x.sectors(); unit++) {
+            if (x.cell(unit) <= -5) {
+                fail("fillUp() left " + fileOf(x));
+            }
+        }
+        due("sectors() of a full file", x.sectors(), 64);
+    }
+
+    private static void setAsLongAsFits(HiveKeys x, int key, int name) {
+        for (int length = 30; length >= 0; length--) {
+            try {
+                x.setValue(key, name, length, 0);
+                return;
+            } catch (IllegalStateException e) {
+                // a shorter one may fit
+            }
+        }
+    }
+
+    /** Does all writes of a new flush. */
+    static void flushWhole(HiveKeys x) {
+        x.flush();
+        due("write(200) of a whole flush", x.write(200), 0);
+    }
+
     /** Ends the test: with exit code 1 if an answer was not due. */
     static void end(String test) {
         System.out.println(test + ": " + (wrong == 0 ? "all as due" : wrong + " not as due"));
