@@ -430,7 +430,7 @@ public final class HiveKeys {
         int rights = file.unitAt(parentCell + KEY_RIGHTS);
         enterKey(keyCell, name, parent, target);
         file.putUnit(keyCell + KEY_RIGHTS, rights);
-        sharing.join(rights);
+        sharing.changeCount(rights, 1);
         lists.putIn(parentCell, entry, 1);
         tellUpwards(parent, OF_SUBKEYS);
         return key;
@@ -493,7 +493,7 @@ public final class HiveKeys {
         int nextKey = ROOT;
 
         Image() {
-            sizes[HEAD_SIZE] = HEAD_SIZE - SECTOR_SIZE;
+            store(sizes, HEAD_SIZE, HEAD_SIZE - SECTOR_SIZE);
         }
 
         void copyFrom(Image other) {
@@ -612,12 +612,12 @@ public final class HiveKeys {
 
         /** Gets a cell for each size that is wanted, in order; if there is no room for one, none. */
         boolean getAllWanted() {
-            int unitsBefore = file.end();
+            int sectorsBefore = file.sectorCount;
             System.arraycopy(file.sizes, 0, sizesBefore, 0, sizesBefore.length);
             for (int i = 0; i < wantedCount; i++) {
                 int place = getCell(read(wantedSizes, i));
                 if (place == NO_CELL) {
-                    file.sectorCount = unitsBefore / Image.SECTOR_SIZE;
+                    file.sectorCount = sectorsBefore;
                     System.arraycopy(sizesBefore, 0, file.sizes, 0, sizesBefore.length);
                     return false;
                 }
@@ -668,8 +668,11 @@ public final class HiveKeys {
         int unitsInUse() {
             int sum = 0;
             int end = file.end();
-            for (int unit = Image.HEAD_SIZE; unit < end; unit++) {
-                sum += Math.max(0, read(file.sizes, unit));
+            int unit = Image.HEAD_SIZE;
+            while (unit < end) {
+                int size = read(file.sizes, unit);
+                sum += Math.max(0, size);
+                unit += Math.max(1, Math.abs(size));
             }
             return sum;
         }
@@ -690,12 +693,15 @@ public final class HiveKeys {
             return place;
         }
 
-        private int firstFreeFor(int size) {
+        private int firstFreeFor(int wantedSize) {
             int end = file.end();
-            for (int unit = Image.HEAD_SIZE; unit < end; unit++) {
-                if (-read(file.sizes, unit) >= size) {
+            int unit = Image.HEAD_SIZE;
+            while (unit < end) {
+                int size = read(file.sizes, unit);
+                if (-size >= wantedSize) {
                     return unit;
                 }
+                unit += Math.max(1, Math.abs(size));
             }
             return NO_CELL;
         }
@@ -757,12 +763,11 @@ public final class HiveKeys {
         }
 
         int subkeyNamed(int keyCell, int name) {
-            int leaf = leafNumbered(keyCell, leafNumberFor(keyCell, entryOf(MAX_KEYS - 1, name)));
-            int entries = leaf == NO_CELL ? 0 : file.itemCount(leaf);
-            for (int i = 0; i < entries; i++) {
-                int entry = file.item(leaf, i);
-                if (entry / MAX_KEYS == rankOf(name)) {
-                    return entry % MAX_KEYS;
+            int leaves = leafCount(keyCell);
+            for (int i = 0; i < leaves; i++) {
+                int key = keyInLeaf(leafNumbered(keyCell, i), name);
+                if (key != NO_KEY) {
+                    return key;
                 }
             }
             return NO_KEY;
@@ -843,8 +848,19 @@ public final class HiveKeys {
             return 7 * name % 64 * (MAX_NAME + 1) + name;
         }
 
+        private int keyInLeaf(int leaf, int name) {
+            int entries = file.itemCount(leaf);
+            for (int i = 0; i < entries; i++) {
+                int entry = file.item(leaf, i);
+                if (entry / MAX_KEYS == rankOf(name)) {
+                    return entry % MAX_KEYS;
+                }
+            }
+            return NO_KEY;
+        }
+
         private boolean isIndex(int list) {
-            return file.sizeAt(list) == INDEX_SIZE;
+            return read(file.sizes, list) == INDEX_SIZE;
         }
 
         private int leafNumbered(int keyCell, int number) {
@@ -1166,7 +1182,14 @@ public final class HiveKeys {
             return place == NO_CELL ? 0 : file.unitAt(place);
         }
 
-        /** Lets one key more have these rights; false if there is no room. */
+        /** Counts keys that come to have these rights, or come to have others. */
+        void changeCount(int rights, int by) {
+            int place = file.placeOfRights(rights);
+            file.putUnit(place, file.unitAt(place) + by);
+            cells.markWritten(place);
+        }
+
+        /** Lets one key more have these rights, which may be new; false if there is no room. */
         boolean join(int rights) {
             if (file.placeOfRights(rights) == NO_CELL) {
                 cells.wantNothing();
@@ -1200,12 +1223,6 @@ public final class HiveKeys {
             int units = read(isCounted, rights) == 0 ? file.sizeAt(file.placeOfRights(rights)) : 0;
             store(isCounted, rights, 1);
             return units;
-        }
-
-        private void changeCount(int rights, int by) {
-            int place = file.placeOfRights(rights);
-            file.putUnit(place, file.unitAt(place) + by);
-            cells.markWritten(place);
         }
     }
 

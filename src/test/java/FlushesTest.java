@@ -3,6 +3,7 @@ public final class FlushesTest {
     public static void main(String[] args) {
         dirtyTellsOfKeys();
         dirtyTellsOfLists();
+        dirtyTellsOfAnIndexThatStays();
         dirtyTellsOfValues();
         dirtyTellsOfRights();
         dirtyDoesNotTellOfFreeUnits();
@@ -109,6 +110,27 @@ public final class FlushesTest {
         dirtyIs("behind rename() in the only leaf", x, set(4, 5, 6));
     }
 
+    private static void dirtyTellsOfAnIndexThatStays() {
+        HiveKeys x = flushed();
+        for (int sum = 0; sum < 5; sum++) {
+            x.make(2, 55 * sum % 64);
+        }
+        // Names with the sum 0: the leaf at 86 has four entries then, and is split by the next.
+        x.make(2, 64);
+        Check.flushWhole(x);
+        x.make(2, 128);
+        Check.due("list(2)", x.list(2), 73);
+        Check.due("place(9)", x.place(9), 135);
+        // The key 9, the new leaf at 141, the leaf at 86, the index at 115, the parent, the rights.
+        dirtyIs("behind a split in a list with an index", x, set(0, 4, 5, 7, 8, 9));
+        x.delete(5);
+        // The key at 97 to 102, its leaf at 141 to 145.
+        dirtyIs("behind delete() in a leaf that stays", x, set(0, 4, 6, 8, 9));
+        Check.due("delete(4)", x.delete(4), 11);
+        // The key at 91 to 96, its leaf at 141 to 145, and the index, which loses this.
+        dirtyIs("behind delete() of a leaf beside others", x, set(0, 4, 5, 6, 7, 8, 9));
+    }
+
     private static void dirtyTellsOfValues() {
         HiveKeys x = flushed();
         x.setValue(0, 1, 30, 1);
@@ -142,6 +164,12 @@ public final class FlushesTest {
         // Cells are at 12 to 23, the 5th at 24 to 26; the list was at 53, is at 27 to 35.
         Check.due("cell(27)", x.cell(27), 9);
         dirtyIs("behind setValue() of the 5th", x, set(0, 1, 2, 3));
+        HiveKeys y = flushed();
+        y.setValue(0, 2, 0, 0);
+        // The new cell is at 80, the value list at 53, the key at 4.
+        dirtyIs("behind setValue() of a second value", y, set(0, 3, 5));
+        y.dropValue(0, 2);
+        dirtyIs("behind dropValue() of the second value", y, set(0, 3, 5));
     }
 
     private static void dirtyTellsOfRights() {
@@ -402,6 +430,7 @@ public final class FlushesTest {
         x.makeLink(1, 0, 2);
         x.setValue(1, 5, 30, 3);
         x.setRights(2, 9);
+        x.setRights(3, 255);
         Check.flushWhole(x);
         String before = Check.fileOf(x);
         x.rename(1, 100);
@@ -411,6 +440,7 @@ public final class FlushesTest {
         x.delete(7);
         x.delete(2);
         x.setRights(1, 200);
+        x.setRights(3, 0);
         x.make(3, 0);
         Check.due("crash()", x.crash(), 1);
         Check.sameFile("a crash", before, x);
@@ -420,6 +450,7 @@ public final class FlushesTest {
         Check.due("unit(1, 5, 29)", x.unit(1, 5, 29), 93 + 29 * 17);
         Check.throwsIndex("unit(1, 6, 0)", () -> x.unit(1, 6, 0));
         Check.due("sharers(9)", x.sharers(9), 1);
+        Check.due("sharers(255)", x.sharers(255), 1);
         Check.due("sharers(200)", x.sharers(200), 0);
         Check.due("usedByTree()", x.usedByTree(), x.used());
         Check.due("the next key", x.make(3, 1), 8);

@@ -122,6 +122,23 @@ public final class KeysTest {
         x.delete(x.find(0, nameOfSum(5)));
         x.delete(x.find(0, nameOfSum(10)));
         Check.due("the first leaf has gone", x.list(0), 21);
+        for (int sum = 0; sum < 5; sum++) {
+            // The new entry comes in at each place of the five in turn.
+            HiveKeys y = new HiveKeys();
+            for (int i = 0; i < 4; i++) {
+                y.make(0, nameOfSum(2 * i + 1));
+            }
+            y.make(0, nameOfSum(2 * sum));
+            for (int i = 0; i < 5; i++) {
+                int due = i == sum ? 5 : i < sum ? i + 1 : i;
+                Check.due("subkeyAt(0, " + i + ") behind a split", y.subkeyAt(0, i), due);
+            }
+            y.delete(y.subkeyAt(0, 0));
+            y.delete(y.subkeyAt(0, 0));
+            Check.due("list(0) without two of the first three", y.list(0), 32);
+            y.delete(y.subkeyAt(0, 0));
+            Check.due("list(0) without the first three", y.list(0), 21);
+        }
     }
 
     private static void entriesBelongToTheLastLeafAhead() {
@@ -264,6 +281,10 @@ public final class KeysTest {
     }
 
     private static void deleteGivesBackLeavesAndTheIndex() {
+        HiveKeys y = withSums(0, 10, 20, 30, 40, 50, 55, 60);
+        Check.due("list(0)", y.list(0), 83);
+        Check.due("delete(8)", y.delete(8), 6);
+        Check.due("delete(7) with a leaf, beside an index that stays", y.delete(7), 6 + 5);
         HiveKeys x = withSums(0, 10, 20, 30, 40);
         Check.due("delete(5)", x.delete(5), 6);
         Check.due("delete(4) with leaf and index", x.delete(4), 6 + 5 + 9);

@@ -236,6 +236,7 @@ public final class WatchesTest {
     private static void crashEndsAllWatches() {
         HiveKeys x = chain();
         Check.flushWhole(x);
+        x.watch(0, 7, true);
         x.watch(1, 7, true);
         x.watch(2, 7, true);
         x.make(1, 10);
@@ -244,6 +245,7 @@ public final class WatchesTest {
         x.make(1, 10);
         x.make(2, 10);
         notices("behind crash() and make()", x);
+        Check.due("watch(0, 7, true)", x.watch(0, 7, true), true);
         Check.due("watch(1, 7, true)", x.watch(1, 7, true), true);
         Check.due("watch(2, 7, true)", x.watch(2, 7, true), true);
     }
