@@ -12,7 +12,7 @@ public final class CellsTest {
     }
 
     private static void sectorsGrowOneByOneAndNeverFall() {
-        HiveKeys x = new HiveKeys();
+        Counted x = new Counted();
         Check.due("sectors()", x.sectors(), 1);
         x.setRights(0, 1);
         x.setRights(0, 2);
@@ -26,14 +26,10 @@ public final class CellsTest {
         x.dropValue(0, 0);
         x.delete(1);
         Check.due("sectors() behind giving back all", x.sectors(), 5);
-        HiveKeys y = new HiveKeys();
-        Check.fillUp(y);
-        Check.due("sectors() of a full file", y.sectors(), 64);
-        Check.throwsIndex("cell(1024)", () -> y.cell(1024));
     }
 
     private static void theFirstFreeCellThatIsLargeEnoughIsTaken() {
-        HiveKeys x = new HiveKeys();
+        Counted x = new Counted();
         x.setValue(0, 0, 2, 0);
         x.setValue(0, 1, 4, 0);
         x.setValue(0, 2, 8, 0);
@@ -55,7 +51,7 @@ public final class CellsTest {
     }
 
     private static void givenBackCellsAreJoinedOnBothSides() {
-        HiveKeys x = new HiveKeys();
+        Counted x = new Counted();
         for (int name = 0; name < 4; name++) {
             x.setValue(0, name, 0, 0);
         }
@@ -74,7 +70,7 @@ public final class CellsTest {
     }
 
     private static void cellTellsSizes() {
-        HiveKeys x = new HiveKeys();
+        Counted x = new Counted();
         int[] due = {0, 0, 0, 0, 6, 0, 0, 0, 0, 0, 2, 0, -4, 0, 0, 0};
         for (int unit = 0; unit < 16; unit++) {
             Check.due("cell(" + unit + ")", x.cell(unit), due[unit]);
@@ -89,7 +85,7 @@ public final class CellsTest {
     }
 
     private static void cellRefusesWhatItMust() {
-        HiveKeys x = new HiveKeys();
+        Counted x = new Counted();
         Check.throwsIndex("cell(-1)", () -> x.cell(-1));
         Check.throwsIndex("cell(16)", () -> x.cell(16));
         Check.throwsIndex("cell(MAX)", () -> x.cell(Integer.MAX_VALUE));
@@ -100,7 +96,7 @@ public final class CellsTest {
     }
 
     private static void placeTellsWhereAKeyLies() {
-        HiveKeys x = new HiveKeys();
+        Counted x = new Counted();
         x.make(0, 0);
         x.make(0, 1);
         Check.due("place(0)", x.place(0), 4);
@@ -118,7 +114,7 @@ public final class CellsTest {
     }
 
     private static void usedIsUsedByTree() {
-        HiveKeys x = new HiveKeys();
+        Counted x = new Counted();
         int due = 8;
         sameBoth(x, due);
         for (int name = 0; name < 5; name++) {
@@ -139,12 +135,9 @@ public final class CellsTest {
         x.setRights(4, 2);
         due += 2 + 2;
         sameBoth(x, due);
-        HiveKeys y = new HiveKeys();
-        Check.fillUp(y);
-        Check.due("usedByTree() of a full file", y.usedByTree(), y.used());
     }
 
-    private static void sameBoth(HiveKeys x, int due) {
+    private static void sameBoth(Counted x, int due) {
         Check.due("used()", x.used(), due);
         Check.due("usedByTree()", x.usedByTree(), due);
         Check.due("usedByTree() again", x.usedByTree(), due);

@@ -39,58 +39,42 @@ final class Check {
     }
 
     /** Behind a call that threw, the registry must be as it was. */
-    static void sameFile(String when, String before, HiveKeys x) {
+    static void sameFile(String when, String before, Counted x) {
         if (!before.equals(fileOf(x))) {
             fail(when + ": the file is " + fileOf(x) + ", was " + before);
         }
     }
 
     /** All cells of the file, its size, and the dirty sectors. */
-    static String fileOf(HiveKeys x) {
+    static String fileOf(Counted x) {
+        return cellsOf(x) + "/" + x.sectors() + "/" + x.dirty();
+    }
+
+    /** All cells of the file, by going from one to the next. */
+    static String cellsOf(Counted x) {
         StringBuilder text = new StringBuilder();
-        for (int unit = 0; unit < 16 * x.sectors(); unit++) {
-            if (x.cell(unit) != 0) {
-                text.append(unit).append(':').append(x.cell(unit)).append(' ');
-            }
+        int end = 16 * x.sectors();
+        int unit = 4;
+        while (unit < end) {
+            int size = x.cell(unit);
+            text.append(unit).append(':').append(size).append(' ');
+            unit += size == 0 ? end : Math.abs(size);
         }
-        return text.append('/').append(x.sectors()).append('/').append(x.dirty()).toString();
+        if (unit != end) {
+            fail("the cells do not lie side by side: " + text);
+        }
+        return text.toString();
     }
 
-    /**
-     * Fills the file until no cell of 5 units or more is free: the keys 1 to 3 below the root have
-     * the values, of which the first, with the name 0, have the length 30; the keys 4 to 12 lie below
-     * the key 3, each below the one before.
-     */
-    static void fillUp(HiveKeys x) {
-        for (int key = 1; key <= 12; key++) {
-            x.make(key <= 3 ? 0 : key - 1, key);
-        }
-        for (int name = 0; name < 8; name++) {
-            for (int key = 1; key <= 3; key++) {
-                setAsLongAsFits(x, key, name);
-            }
-        }
-        for (int unit = 0; unit < 16 * x.sectors(); unit++) {
-            if (x.cell(unit) <= -5) {
-                fail("fillUp() left " + fileOf(x));
-            }
-        }
-        due("sectors() of a full file", x.sectors(), 64);
-    }
-
-    private static void setAsLongAsFits(HiveKeys x, int key, int name) {
-        for (int length = 30; length >= 0; length--) {
-            try {
-                x.setValue(key, name, length, 0);
-                return;
-            } catch (IllegalStateException e) {
-                // a shorter one may fit
-            }
+    static void sameCells(String when, String due, Counted x) {
+        String got = cellsOf(x).trim();
+        if (!got.equals(due)) {
+            fail(when + ": the cells are " + got + ", due are " + due);
         }
     }
 
     /** Does all writes of a new flush. */
-    static void flushWhole(HiveKeys x) {
+    static void flushWhole(Counted x) {
         x.flush();
         due("write(200) of a whole flush", x.write(200), 0);
     }

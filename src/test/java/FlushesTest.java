@@ -7,7 +7,6 @@ public final class FlushesTest {
         dirtyTellsOfValues();
         dirtyTellsOfRights();
         dirtyDoesNotTellOfFreeUnits();
-        dirtyTellsOfTheLastSector();
         flushTellsItsWrites();
         flushRefusesWhatItMust();
         writeTellsWhatIsLeft();
@@ -28,8 +27,8 @@ public final class FlushesTest {
      * 49, with its cell at 50 and the value list at 53; then the key 1 at 58, with a leaf at 64; then
      * the key 2 below it at 69, with a leaf at 75, up to the end of the file.
      */
-    private static HiveKeys flushed() {
-        HiveKeys x = new HiveKeys();
+    private static Counted flushed() {
+        Counted x = new Counted();
         x.setValue(0, 1, 30, 0);
         x.make(0, 1);
         x.make(1, 2);
@@ -50,7 +49,7 @@ public final class FlushesTest {
         return all;
     }
 
-    private static void dirtyIs(String when, HiveKeys x, long due) {
+    private static void dirtyIs(String when, Counted x, long due) {
         Check.due("dirty() " + when, x.dirty(), due);
         if (due != 0) {
             Check.flushWhole(x);
@@ -59,7 +58,7 @@ public final class FlushesTest {
     }
 
     private static void dirtyTellsOfKeys() {
-        HiveKeys x = flushed();
+        Counted x = flushed();
         dirtyIs("behind a flush", x, 0);
         // The key's cell 80 to 85 with the leaf behind it, its parent at 69, the rights at 10.
         x.make(2, 0);
@@ -83,7 +82,7 @@ public final class FlushesTest {
     }
 
     private static void dirtyTellsOfLists() {
-        HiveKeys x = flushed();
+        Counted x = flushed();
         // Names with the sums 0, 1, .. below the key 2: its leaf is at 86, the keys lie around it.
         for (int sum = 0; sum < 4; sum++) {
             x.make(2, 55 * sum % 64);
@@ -111,7 +110,7 @@ public final class FlushesTest {
     }
 
     private static void dirtyTellsOfAnIndexThatStays() {
-        HiveKeys x = flushed();
+        Counted x = flushed();
         for (int sum = 0; sum < 5; sum++) {
             x.make(2, 55 * sum % 64);
         }
@@ -132,7 +131,7 @@ public final class FlushesTest {
     }
 
     private static void dirtyTellsOfValues() {
-        HiveKeys x = flushed();
+        Counted x = flushed();
         x.setValue(0, 1, 30, 1);
         // The pieces were at 12 to 49, are at 80 to 117; the cell is at 50, the key at 4.
         dirtyIs("behind setValue() of a value that is there", x, set(0, 1, 2, 3, 5, 6, 7));
@@ -164,7 +163,7 @@ public final class FlushesTest {
         // Cells are at 12 to 23, the 5th at 24 to 26; the list was at 53, is at 27 to 35.
         Check.due("cell(27)", x.cell(27), 9);
         dirtyIs("behind setValue() of the 5th", x, set(0, 1, 2, 3));
-        HiveKeys y = flushed();
+        Counted y = flushed();
         y.setValue(0, 2, 0, 0);
         // The new cell is at 80, the value list at 53, the key at 4.
         dirtyIs("behind setValue() of a second value", y, set(0, 3, 5));
@@ -173,7 +172,7 @@ public final class FlushesTest {
     }
 
     private static void dirtyTellsOfRights() {
-        HiveKeys x = flushed();
+        Counted x = flushed();
         x.setRights(2, 7);
         // Got is 80; the count at 10 is less, the key is at 69.
         dirtyIs("behind setRights()", x, set(0, 4, 5));
@@ -196,7 +195,7 @@ public final class FlushesTest {
     }
 
     private static void dirtyDoesNotTellOfFreeUnits() {
-        HiveKeys x = flushed();
+        Counted x = flushed();
         x.dropValue(0, 1);
         Check.flushWhole(x);
         Check.due("cell(12)", x.cell(12), -46);
@@ -208,7 +207,7 @@ public final class FlushesTest {
         x.dropValue(0, 3);
         // Given back are 20 to 22, joined with all up to 57.
         dirtyIs("of a cell that is joined", x, set(0, 1));
-        HiveKeys y = new HiveKeys();
+        Counted y = new Counted();
         y.setValue(0, 0, 0, 0);
         Check.flushWhole(y);
         y.setValue(0, 1, 8, 0);
@@ -222,18 +221,8 @@ public final class FlushesTest {
         dirtyIs("of no sector beside", y, set(0, 1));
     }
 
-    private static void dirtyTellsOfTheLastSector() {
-        HiveKeys x = new HiveKeys();
-        Check.fillUp(x);
-        Check.due("dirty() of a full file", x.dirty(), -1L);
-        Check.due("flush() of a full file", x.flush(), 132);
-        Check.due("write(131)", x.write(131), 1);
-        Check.due("write(200)", x.write(200), 0);
-        Check.due("log(1)", x.log(1), 1);
-    }
-
     private static void flushTellsItsWrites() {
-        HiveKeys x = new HiveKeys();
+        Counted x = new Counted();
         x.setRights(0, 1);
         Check.due("flush() of 1 sector", x.flush(), 6);
         Check.due("dirty() behind flush()", x.dirty(), 0);
@@ -251,7 +240,7 @@ public final class FlushesTest {
     }
 
     private static void flushRefusesWhatItMust() {
-        HiveKeys x = new HiveKeys();
+        Counted x = new Counted();
         Check.throwsState("flush() of a new registry", x::flush);
         x.make(0, 0);
         Check.due("flush()", x.flush(), 8);
@@ -271,7 +260,7 @@ public final class FlushesTest {
     }
 
     private static void writeTellsWhatIsLeft() {
-        HiveKeys x = new HiveKeys();
+        Counted x = new Counted();
         x.make(0, 0);
         x.flush();
         Check.due("write(1)", x.write(1), 7);
@@ -284,7 +273,7 @@ public final class FlushesTest {
     }
 
     private static void writeRefusesWhatItMust() {
-        HiveKeys x = new HiveKeys();
+        Counted x = new Counted();
         Check.throwsState("write(1) without a flush", () -> x.write(1));
         Check.throwsState("write(200) without a flush", () -> x.write(200));
         Check.throwsArgument("write(0) without a flush", () -> x.write(0));
@@ -301,13 +290,13 @@ public final class FlushesTest {
         Check.throwsState("write(1) behind a crash", () -> x.write(1));
     }
 
-    private static void logsAre(String when, HiveKeys x, int log0, int log1) {
+    private static void logsAre(String when, Counted x, int log0, int log1) {
         Check.due("log(0) " + when, x.log(0), log0);
         Check.due("log(1) " + when, x.log(1), log1);
     }
 
     private static void logsAreUsedInTurn() {
-        HiveKeys x = new HiveKeys();
+        Counted x = new Counted();
         logsAre("at first", x, 0, 0);
         for (int number = 1; number <= 4; number++) {
             x.rename(x.make(0, number), number + 10);
@@ -323,13 +312,13 @@ public final class FlushesTest {
         logsAre("at last", x, 4, 3);
     }
 
-    private static void logsAreFor(String when, HiveKeys x, int number, int held) {
+    private static void logsAreFor(String when, Counted x, int number, int held) {
         Check.due("log() of flush " + number + " " + when, x.log(number % 2), held);
         Check.due("the other log " + when, x.log(1 - number % 2), number - 1);
     }
 
     private static void logRefusesWhatItMust() {
-        HiveKeys x = new HiveKeys();
+        Counted x = new Counted();
         Check.throwsArgument("log(-1)", () -> x.log(-1));
         Check.throwsArgument("log(2)", () -> x.log(2));
         Check.throwsArgument("log(MAX)", () -> x.log(Integer.MAX_VALUE));
@@ -337,7 +326,7 @@ public final class FlushesTest {
     }
 
     private static void crashWithoutAFlushStartsAnew() {
-        HiveKeys x = new HiveKeys();
+        Counted x = new Counted();
         Check.due("crash() of a new registry", x.crash(), 0);
         x.make(0, 0);
         x.setRights(0, 5);
@@ -352,7 +341,7 @@ public final class FlushesTest {
     }
 
     private static void crashBreaksAnUnsealedFlushOff() {
-        HiveKeys x = new HiveKeys();
+        Counted x = new Counted();
         x.make(0, 1);
         Check.flushWhole(x);
         x.make(0, 2);
@@ -383,7 +372,7 @@ public final class FlushesTest {
     }
 
     private static void crashCountsASealedFlushAsWhole() {
-        HiveKeys x = new HiveKeys();
+        Counted x = new Counted();
         x.make(0, 1);
         int writes = x.flush();
         x.make(0, 2);
@@ -405,7 +394,7 @@ public final class FlushesTest {
 
     private static void crashAtEachWrite() {
         for (int write = 0; write <= 8; write++) {
-            HiveKeys x = new HiveKeys();
+            Counted x = new Counted();
             x.make(0, 1);
             Check.due("flush()", x.flush(), 8);
             if (write > 0) {
@@ -423,7 +412,7 @@ public final class FlushesTest {
     }
 
     private static void crashBringsBackAllOfTheRegistry() {
-        HiveKeys x = new HiveKeys();
+        Counted x = new Counted();
         for (int name = 0; name < 6; name++) {
             x.make(0, name);
         }
@@ -457,7 +446,7 @@ public final class FlushesTest {
     }
 
     private static void changesBehindTheBeginningAreOfTheNextFlush() {
-        HiveKeys x = new HiveKeys();
+        Counted x = new Counted();
         x.make(0, 1);
         x.flush();
         x.make(0, 2);

@@ -4,7 +4,6 @@ public final class KeysTest {
         makeNumbersKeysAndGetsTheirCells();
         makeRefusesWhatItMust();
         makeEndsAtEightyKeys();
-        makeEndsWhenThereIsNoRoom();
         leavesSplitThreeAndTwo();
         entriesBelongToTheLastLeafAhead();
         listIsFullAtEightLeaves();
@@ -12,7 +11,6 @@ public final class KeysTest {
         renameTakesTheNewEntryInFirst();
         renameMayEndALeafAndTheIndex();
         renameRefusesWhatItMust();
-        renameEndsWhenThereIsNoRoom();
         deleteGivesBackAllThatTheKeyHad();
         deleteGivesBackLeavesAndTheIndex();
         deleteRefusesWhatItMust();
@@ -22,21 +20,8 @@ public final class KeysTest {
         Check.end("KeysTest");
     }
 
-    /** The sums of nameOfSum(0), nameOfSum(1), .. are 0, 1, .., as 7 * 55 is 6 * 64 + 1. */
-    private static int nameOfSum(int sum) {
-        return 55 * sum % 64;
-    }
-
-    private static HiveKeys withSums(int... sums) {
-        HiveKeys x = new HiveKeys();
-        for (int sum : sums) {
-            x.make(0, nameOfSum(sum));
-        }
-        return x;
-    }
-
     private static void makeNumbersKeysAndGetsTheirCells() {
-        HiveKeys x = new HiveKeys();
+        Counted x = new Counted();
         Check.due("the 1st make", x.make(0, 0), 1);
         Check.due("its cell is the first free one", x.place(1), 12);
         Check.due("its cell's size", x.cell(12), 6);
@@ -51,7 +36,7 @@ public final class KeysTest {
     }
 
     private static void makeRefusesWhatItMust() {
-        HiveKeys x = new HiveKeys();
+        Counted x = new Counted();
         x.make(0, 7);
         x.makeLink(0, 8, 1);
         String before = Check.fileOf(x);
@@ -72,7 +57,7 @@ public final class KeysTest {
     }
 
     private static void makeEndsAtEightyKeys() {
-        HiveKeys x = new HiveKeys();
+        Counted x = new Counted();
         for (int i = 1; i < 80; i++) {
             Check.due("make of a long chain", x.make(i - 1, i), i);
         }
@@ -84,51 +69,35 @@ public final class KeysTest {
         Check.sameFile("80 keys were made", before, x);
     }
 
-    private static void makeEndsWhenThereIsNoRoom() {
-        HiveKeys x = new HiveKeys();
-        Check.fillUp(x);
-        String before = Check.fileOf(x);
-        Check.throwsState("make(0, 9) in a full file", () -> x.make(0, 9));
-        Check.throwsState("makeLink(1, 9, 0) in a full file", () -> x.makeLink(1, 9, 0));
-        Check.sameFile("there was no room", before, x);
-        // A piece of 8 comes free: room for a key, but not for the leaf too that key 1 needs.
-        x.resize(1, 0, 24);
-        String withEight = Check.fileOf(x);
-        Check.throwsState("make(1, 9) without room for the leaf", () -> x.make(1, 9));
-        Check.sameFile("there was no room for the leaf", withEight, x);
-        Check.due("list(1)", x.list(1), 0);
-        Check.due("make(0, 9) with room for the key", x.make(0, 9), 13);
-    }
-
     private static void leavesSplitThreeAndTwo() {
-        HiveKeys x = withSums(0, 10, 20, 30);
+        Counted x = Builds.withSums(0, 10, 20, 30);
         Check.due("a leaf has 4 entries", x.list(0), 41);
         int before = x.used();
-        x.make(0, nameOfSum(5));
+        x.make(0, Builds.nameOfSum(5));
         Check.due("got are key, index and leaf", x.used() - before, 6 + 9 + 5);
         Check.due("the index is got ahead of the leaf", x.cell(x.place(5) + 6), 9);
         Check.due("the leaf is got behind the index", x.cell(x.place(5) + 15), 5);
         Check.due("list(0) behind a split", x.list(0), 52);
         // 0 5 10 | 20 30, so that one more below 20 fits, and the next one splits again.
-        x.make(0, nameOfSum(15));
+        x.make(0, Builds.nameOfSum(15));
         Check.due("the first leaf has 4", x.list(0), 62);
-        x.make(0, nameOfSum(16));
+        x.make(0, Builds.nameOfSum(16));
         Check.due("the first leaf is split", x.list(0), 73);
         // 0 5 10 | 15 16 | 20 30: the new leaf lies right behind the one that was split.
-        x.delete(x.find(0, nameOfSum(15)));
-        x.delete(x.find(0, nameOfSum(16)));
+        x.delete(x.find(0, Builds.nameOfSum(15)));
+        x.delete(x.find(0, Builds.nameOfSum(16)));
         Check.due("the leaf in the middle has gone", x.list(0), 52);
-        x.delete(x.find(0, nameOfSum(0)));
-        x.delete(x.find(0, nameOfSum(5)));
-        x.delete(x.find(0, nameOfSum(10)));
+        x.delete(x.find(0, Builds.nameOfSum(0)));
+        x.delete(x.find(0, Builds.nameOfSum(5)));
+        x.delete(x.find(0, Builds.nameOfSum(10)));
         Check.due("the first leaf has gone", x.list(0), 21);
         for (int sum = 0; sum < 5; sum++) {
             // The new entry comes in at each place of the five in turn.
-            HiveKeys y = new HiveKeys();
+            Counted y = new Counted();
             for (int i = 0; i < 4; i++) {
-                y.make(0, nameOfSum(2 * i + 1));
+                y.make(0, Builds.nameOfSum(2 * i + 1));
             }
-            y.make(0, nameOfSum(2 * sum));
+            y.make(0, Builds.nameOfSum(2 * sum));
             for (int i = 0; i < 5; i++) {
                 int due = i == sum ? 5 : i < sum ? i + 1 : i;
                 Check.due("subkeyAt(0, " + i + ") behind a split", y.subkeyAt(0, i), due);
@@ -143,60 +112,60 @@ public final class KeysTest {
 
     private static void entriesBelongToTheLastLeafAhead() {
         // 0 1 2 | 10 20 becomes 0 1 2 3 | 10 20; what is between 3 and 10 would still go to the first.
-        HiveKeys x = withSums(0, 1, 2, 10, 20, 3);
+        Counted x = Builds.withSums(0, 1, 2, 10, 20, 3);
         Check.due("two leaves", x.list(0), 62);
-        x.make(0, nameOfSum(9));
+        x.make(0, Builds.nameOfSum(9));
         Check.due("the first leaf took it, and was split", x.list(0), 73);
         // 5 | 10 20 ..: what is ahead of all goes to the first leaf, and becomes its first entry.
-        HiveKeys y = withSums(5, 6, 7, 10, 20);
-        y.make(0, nameOfSum(0));
-        y.make(0, nameOfSum(1));
+        Counted y = Builds.withSums(5, 6, 7, 10, 20);
+        y.make(0, Builds.nameOfSum(0));
+        y.make(0, Builds.nameOfSum(1));
         Check.due("the first leaf was split", y.list(0), 73);
         Check.due("the least sum is first", y.subkeyAt(0, 0), 6);
         Check.due("then the next", y.subkeyAt(0, 1), 7);
     }
 
     private static void listIsFullAtEightLeaves() {
-        HiveKeys x = new HiveKeys();
+        Counted x = new Counted();
         for (int sum = 0; sum < 25; sum++) {
-            x.make(0, nameOfSum(2 * sum));
+            x.make(0, Builds.nameOfSum(2 * sum));
         }
         // Seven leaves of 3, and the last one of 4.
         Check.due("list(0) with 8 leaves", x.list(0), 258);
         String before = Check.fileOf(x);
-        Check.throwsState("make for a ninth leaf", () -> x.make(0, nameOfSum(63)));
-        Check.throwsState("makeLink for a ninth leaf", () -> x.makeLink(0, nameOfSum(63), 0));
-        Check.throwsState("rename for a ninth leaf", () -> x.rename(25, nameOfSum(63)));
+        Check.throwsState("make for a ninth leaf", () -> x.make(0, Builds.nameOfSum(63)));
+        Check.throwsState("makeLink for a ninth leaf", () -> x.makeLink(0, Builds.nameOfSum(63), 0));
+        Check.throwsState("rename for a ninth leaf", () -> x.rename(25, Builds.nameOfSum(63)));
         Check.sameFile("the list was full", before, x);
-        Check.due("make in a leaf of 3", x.make(0, nameOfSum(1)), 26);
-        Check.throwsState("make in that leaf again", () -> x.make(0, nameOfSum(3)));
-        Check.due("rename into a leaf of 3", x.rename(25, nameOfSum(7)), nameOfSum(48));
-        Check.due("rename into the last leaf", x.rename(24, nameOfSum(63)), nameOfSum(46));
+        Check.due("make in a leaf of 3", x.make(0, Builds.nameOfSum(1)), 26);
+        Check.throwsState("make in that leaf again", () -> x.make(0, Builds.nameOfSum(3)));
+        Check.due("rename into a leaf of 3", x.rename(25, Builds.nameOfSum(7)), Builds.nameOfSum(48));
+        Check.due("rename into the last leaf", x.rename(24, Builds.nameOfSum(63)), Builds.nameOfSum(46));
         Check.due("list(0) with 8 leaves still", x.list(0), 268);
     }
 
     private static void renameMovesTheEntry() {
-        HiveKeys x = withSums(0, 10, 20);
+        Counted x = Builds.withSums(0, 10, 20);
         x.make(1, 5);
         x.setValue(1, 1, 1, 1);
         int before = x.used();
-        Check.due("rename(1, ..)", x.rename(1, nameOfSum(30)), nameOfSum(0));
-        Check.due("find() of the name before", x.find(0, nameOfSum(0)), -1);
-        Check.due("find() of the name now", x.find(0, nameOfSum(30)), 1);
+        Check.due("rename(1, ..)", x.rename(1, Builds.nameOfSum(30)), Builds.nameOfSum(0));
+        Check.due("find() of the name before", x.find(0, Builds.nameOfSum(0)), -1);
+        Check.due("find() of the name now", x.find(0, Builds.nameOfSum(30)), 1);
         Check.due("subkeyAt(0, 0)", x.subkeyAt(0, 0), 2);
         Check.due("subkeyAt(0, 2)", x.subkeyAt(0, 2), 1);
         Check.due("its subkeys stay", x.find(1, 5), 4);
         Check.due("its values stay", x.unit(1, 1, 0), 31);
         Check.due("used()", x.used(), before);
-        Check.due("rename(1, 9999)", x.rename(1, 9999), nameOfSum(30));
+        Check.due("rename(1, 9999)", x.rename(1, 9999), Builds.nameOfSum(30));
         Check.due("rename(1, 0)", x.rename(1, 0), 9999);
         Check.due("a name that is free again", x.make(0, 9999), 5);
     }
 
     private static void renameTakesTheNewEntryInFirst() {
-        HiveKeys x = withSums(0, 10, 20, 30);
+        Counted x = Builds.withSums(0, 10, 20, 30);
         int before = x.used();
-        x.rename(1, nameOfSum(40));
+        x.rename(1, Builds.nameOfSum(40));
         // 0 10 20 | 30 40, and then 0 goes.
         Check.due("the leaf was split", x.list(0), 42);
         Check.due("index and leaf were got", x.used() - before, 14);
@@ -206,22 +175,22 @@ public final class KeysTest {
     }
 
     private static void renameMayEndALeafAndTheIndex() {
-        HiveKeys x = withSums(0, 10, 20, 30, 40);
+        Counted x = Builds.withSums(0, 10, 20, 30, 40);
         x.delete(5);
         // 0 10 20 | 30: the entry goes to the first leaf, and the second one is empty.
         int before = x.used();
-        x.rename(4, nameOfSum(5));
+        x.rename(4, Builds.nameOfSum(5));
         Check.due("one leaf is left", x.list(0), 41);
         Check.due("leaf and index were given back", before - x.used(), 14);
         Check.due("subkeyAt(0, 1)", x.subkeyAt(0, 1), 4);
-        HiveKeys y = withSums(0);
+        Counted y = Builds.withSums(0);
         y.rename(1, 77);
         Check.due("the only leaf stays", y.list(0), 11);
         Check.due("used() with it", y.used(), 19);
     }
 
     private static void renameRefusesWhatItMust() {
-        HiveKeys x = new HiveKeys();
+        Counted x = new Counted();
         x.make(0, 1);
         x.make(0, 2);
         x.make(1, 3);
@@ -240,24 +209,8 @@ public final class KeysTest {
         Check.due("a link can be renamed", x.rename(x.makeLink(0, 4, 1), 5), 4);
     }
 
-    private static void renameEndsWhenThereIsNoRoom() {
-        HiveKeys x = new HiveKeys();
-        Check.fillUp(x);
-        x.dropValue(1, 0);
-        x.make(0, 4);
-        x.setValue(13, 0, 12, 0);
-        String before = Check.fileOf(x);
-        // Key 13 made the leaf of the root full: one entry more needs an index of 9 and a leaf.
-        Check.throwsState("rename without room", () -> x.rename(2, 5));
-        Check.sameFile("there was no room", before, x);
-        Check.due("find() of the name", x.find(0, 2), 2);
-        x.dropValue(13, 0);
-        Check.due("rename with room", x.rename(2, 5), 2);
-        Check.due("list(0)", x.list(0), 42);
-    }
-
     private static void deleteGivesBackAllThatTheKeyHad() {
-        HiveKeys x = new HiveKeys();
+        Counted x = new Counted();
         x.make(0, 3);
         x.setValue(1, 1, 20, 0);
         x.setValue(1, 2, 1, 0);
@@ -281,11 +234,11 @@ public final class KeysTest {
     }
 
     private static void deleteGivesBackLeavesAndTheIndex() {
-        HiveKeys y = withSums(0, 10, 20, 30, 40, 50, 55, 60);
+        Counted y = Builds.withSums(0, 10, 20, 30, 40, 50, 55, 60);
         Check.due("list(0)", y.list(0), 83);
         Check.due("delete(8)", y.delete(8), 6);
         Check.due("delete(7) with a leaf, beside an index that stays", y.delete(7), 6 + 5);
-        HiveKeys x = withSums(0, 10, 20, 30, 40);
+        Counted x = Builds.withSums(0, 10, 20, 30, 40);
         Check.due("delete(5)", x.delete(5), 6);
         Check.due("delete(4) with leaf and index", x.delete(4), 6 + 5 + 9);
         Check.due("list(0)", x.list(0), 31);
@@ -298,7 +251,7 @@ public final class KeysTest {
     }
 
     private static void deleteRefusesWhatItMust() {
-        HiveKeys x = new HiveKeys();
+        Counted x = new Counted();
         x.make(0, 1);
         x.make(1, 2);
         String before = Check.fileOf(x);
@@ -308,14 +261,14 @@ public final class KeysTest {
         Check.throwsState("delete(0)", () -> x.delete(0));
         Check.throwsState("delete(1) with a subkey", () -> x.delete(1));
         Check.sameFile("delete() threw", before, x);
-        HiveKeys y = new HiveKeys();
+        Counted y = new Counted();
         Check.throwsState("delete(0) without subkeys", () -> y.delete(0));
         x.delete(2);
         Check.due("delete(1) without subkeys", x.delete(1), 11);
     }
 
     private static void findFindsByName() {
-        HiveKeys x = new HiveKeys();
+        Counted x = new Counted();
         for (int name = 0; name <= 640; name += 64) {
             x.make(0, name);
         }
@@ -335,7 +288,7 @@ public final class KeysTest {
     }
 
     private static void subkeyAtGoesBySumThenName() {
-        HiveKeys x = new HiveKeys();
+        Counted x = new Counted();
         // The sums are 7, 0, 1, 0, 0, 41 and 63.
         int[] names = {1, 64, 55, 128, 0, 9999, 9};
         for (int name : names) {
@@ -354,7 +307,7 @@ public final class KeysTest {
     }
 
     private static void listCountsSubkeysAndLeaves() {
-        HiveKeys x = withSums(0, 1, 2, 3, 4, 5, 6, 7);
+        Counted x = Builds.withSums(0, 1, 2, 3, 4, 5, 6, 7);
         // 0 1 2 | 3 4 5 | 6 7
         Check.due("list(0)", x.list(0), 83);
         Check.due("list(1)", x.list(1), 0);

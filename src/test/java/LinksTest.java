@@ -3,7 +3,6 @@ public final class LinksTest {
     public static void main(String[] args) {
         makeLinkMakesAKey();
         makeLinkRefusesWhatItMust();
-        makeLinkEndsWhenThereIsNoRoom();
         linksHaveNeitherSubkeysNorValues();
         followGoesFourLinksAtMost();
         followAnswersNothingForALostTarget();
@@ -12,7 +11,7 @@ public final class LinksTest {
     }
 
     private static void makeLinkMakesAKey() {
-        HiveKeys x = new HiveKeys();
+        Counted x = new Counted();
         x.make(0, 1);
         Check.due("makeLink(1, 2, 0)", x.makeLink(1, 2, 0), 2);
         Check.due("a link to a link", x.makeLink(0, 9999, 2), 3);
@@ -28,7 +27,7 @@ public final class LinksTest {
     }
 
     private static void makeLinkRefusesWhatItMust() {
-        HiveKeys x = new HiveKeys();
+        Counted x = new Counted();
         x.make(0, 1);
         x.makeLink(0, 2, 1);
         String before = Check.fileOf(x);
@@ -49,16 +48,8 @@ public final class LinksTest {
         Check.due("the next key", x.makeLink(0, 3, 0), 3);
     }
 
-    private static void makeLinkEndsWhenThereIsNoRoom() {
-        HiveKeys x = new HiveKeys();
-        Check.fillUp(x);
-        String before = Check.fileOf(x);
-        Check.throwsState("makeLink() in a full file", () -> x.makeLink(0, 9, 0));
-        Check.sameFile("there was no room", before, x);
-    }
-
     private static void linksHaveNeitherSubkeysNorValues() {
-        HiveKeys x = new HiveKeys();
+        Counted x = new Counted();
         x.makeLink(0, 1, 0);
         Check.throwsState("make(link, 0)", () -> x.make(1, 0));
         Check.throwsState("setValue(link, 0, 0, 0)", () -> x.setValue(1, 0, 0, 0));
@@ -69,7 +60,7 @@ public final class LinksTest {
     }
 
     private static void followGoesFourLinksAtMost() {
-        HiveKeys x = new HiveKeys();
+        Counted x = new Counted();
         x.make(0, 0);
         Check.due("follow() of a key that is no link", x.follow(1), 1);
         for (int links = 1; links <= 6; links++) {
@@ -80,7 +71,7 @@ public final class LinksTest {
     }
 
     private static void followAnswersNothingForALostTarget() {
-        HiveKeys x = new HiveKeys();
+        Counted x = new Counted();
         x.make(0, 0);
         x.makeLink(0, 1, 1);
         x.makeLink(0, 2, 2);
@@ -99,7 +90,7 @@ public final class LinksTest {
     }
 
     private static void followRefusesWhatItMust() {
-        HiveKeys x = new HiveKeys();
+        Counted x = new Counted();
         x.make(0, 0);
         x.delete(1);
         Check.throwsIndex("follow(1), which was deleted", () -> x.follow(1));

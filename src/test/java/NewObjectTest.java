@@ -1,7 +1,7 @@
 /** Promise 1: a new object is a registry with the root alone. */
 public final class NewObjectTest {
     public static void main(String[] args) {
-        HiveKeys x = new HiveKeys();
+        Counted x = new Counted();
         Check.due("list(0)", x.list(0), 0);
         Check.due("find(0, 0)", x.find(0, 0), -1);
         Check.throwsIndex("list(1)", () -> x.list(1));
@@ -26,8 +26,8 @@ public final class NewObjectTest {
     }
 
     private static void objectsAreTheirOwn() {
-        HiveKeys x = new HiveKeys();
-        HiveKeys y = new HiveKeys();
+        Counted x = new Counted();
+        Counted y = new Counted();
         x.make(0, 3);
         x.setValue(0, 1, 30, 1);
         x.watch(0, 7, true);

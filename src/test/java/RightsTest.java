@@ -4,13 +4,12 @@ public final class RightsTest {
         setRightsSharesCells();
         setRightsGetsBeforeItGivesBack();
         setRightsRefusesWhatItMust();
-        setRightsEndsWhenThereIsNoRoom();
         sharersCountsKeys();
         Check.end("RightsTest");
     }
 
     private static void setRightsSharesCells() {
-        HiveKeys x = new HiveKeys();
+        Counted x = new Counted();
         x.make(0, 1);
         int before = x.used();
         Check.due("setRights(1, 255)", x.setRights(1, 255), 0);
@@ -26,7 +25,7 @@ public final class RightsTest {
     }
 
     private static void setRightsGetsBeforeItGivesBack() {
-        HiveKeys x = new HiveKeys();
+        Counted x = new Counted();
         x.setRights(0, 1);
         Check.sameFile("the cell is another one", "4:6 10:-2 12:2 14:-2 /1/1", x);
         x.setRights(0, 2);
@@ -34,7 +33,7 @@ public final class RightsTest {
     }
 
     private static void setRightsRefusesWhatItMust() {
-        HiveKeys x = new HiveKeys();
+        Counted x = new Counted();
         String before = Check.fileOf(x);
         Check.throwsIndex("setRights(1, 0)", () -> x.setRights(1, 0));
         Check.throwsIndex("setRights(-1, 0)", () -> x.setRights(-1, 0));
@@ -45,33 +44,8 @@ public final class RightsTest {
         Check.sameFile("setRights() threw", before, x);
     }
 
-    private static void setRightsEndsWhenThereIsNoRoom() {
-        HiveKeys x = new HiveKeys();
-        Check.fillUp(x);
-        int had = 0;
-        while (had < 12 && isSet(x, had + 1)) {
-            had++;
-        }
-        String before = Check.fileOf(x);
-        Check.due("some keys got other rights", had > 0 && had < 12, true);
-        Check.throwsState("setRights() in a full file", () -> x.setRights(12, 200));
-        Check.sameFile("there was no room", before, x);
-        Check.due("sharers(200)", x.sharers(200), 0);
-        Check.due("setRights(12, 1), as there is a cell for these", x.setRights(12, 1), 0);
-        Check.due("sharers(1)", x.sharers(1), 2);
-    }
-
-    private static boolean isSet(HiveKeys x, int key) {
-        try {
-            x.setRights(key, key);
-            return true;
-        } catch (IllegalStateException e) {
-            return false;
-        }
-    }
-
     private static void sharersCountsKeys() {
-        HiveKeys x = new HiveKeys();
+        Counted x = new Counted();
         for (int key = 1; key <= 5; key++) {
             x.make(key - 1, 0);
         }

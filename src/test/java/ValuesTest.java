@@ -5,11 +5,9 @@ public final class ValuesTest {
         setValueReplacesAValue();
         setValueGetsALongerListForFive();
         setValueRefusesWhatItMust();
-        setValueEndsWhenThereIsNoRoom();
         resizeKeepsThePiecesAlike();
         resizeGetsBeforeItGivesBack();
         resizeRefusesWhatItMust();
-        resizeEndsWhenThereIsNoRoom();
         dropValueGivesBackAll();
         dropValueRefusesWhatItMust();
         unitIsWorkedOutOfTheSeed();
@@ -18,7 +16,7 @@ public final class ValuesTest {
     }
 
     private static void setValueGetsItsCellsInOrder() {
-        HiveKeys x = new HiveKeys();
+        Counted x = new Counted();
         Check.due("setValue(0, 5, 20, 1)", x.setValue(0, 5, 20, 1), 1);
         // Pieces of 8, 8 and 4 units and 2 more each, then the cell, then the value list.
         Check.sameFile("a value of 20", "4:6 10:2 12:10 22:10 32:6 38:3 41:5 46:-2 /3/7", x);
@@ -33,7 +31,7 @@ public final class ValuesTest {
     }
 
     private static void setValueReplacesAValue() {
-        HiveKeys x = new HiveKeys();
+        Counted x = new Counted();
         x.setValue(0, 1, 8, 3);
         x.setValue(0, 2, 0, 0);
         Check.sameFile("two values", "4:6 10:2 12:10 22:3 25:5 30:3 33:-15 /3/7", x);
@@ -47,7 +45,7 @@ public final class ValuesTest {
     }
 
     private static void setValueGetsALongerListForFive() {
-        HiveKeys x = new HiveKeys();
+        Counted x = new Counted();
         for (int name = 0; name < 4; name++) {
             Check.due("setValue() of a new value", x.setValue(0, name, 0, 0), name + 1);
         }
@@ -72,7 +70,7 @@ public final class ValuesTest {
     }
 
     private static void setValueRefusesWhatItMust() {
-        HiveKeys x = new HiveKeys();
+        Counted x = new Counted();
         x.makeLink(0, 0, 0);
         String before = Check.fileOf(x);
         Check.throwsIndex("setValue(2, 0, 0, 0)", () -> x.setValue(2, 0, 0, 0));
@@ -88,31 +86,8 @@ public final class ValuesTest {
         Check.sameFile("setValue() threw", before, x);
     }
 
-    private static void setValueEndsWhenThereIsNoRoom() {
-        HiveKeys x = new HiveKeys();
-        int sectors = 0;
-        String before = "";
-        boolean isFull = false;
-        for (int i = 0; i < 30 && !isFull; i++) {
-            if (i % 8 == 0) {
-                x.make(0, i);
-            }
-            sectors = x.sectors();
-            before = Check.fileOf(x);
-            try {
-                x.setValue(1 + i / 8, i % 8, i == 0 ? 0 : 29, 0);
-            } catch (IllegalStateException e) {
-                isFull = true;
-            }
-        }
-        Check.due("the file was filled", isFull, true);
-        // Some of the pieces found room, one of the cells did not: also the file has not grown.
-        Check.due("sectors ahead of the last call", sectors, 63);
-        Check.sameFile("there was no room", before, x);
-    }
-
     private static void resizeKeepsThePiecesAlike() {
-        HiveKeys x = new HiveKeys();
+        Counted x = new Counted();
         x.setValue(0, 1, 20, 7);
         Check.sameFile("8, 8, 4", "4:6 10:2 12:10 22:10 32:6 38:3 41:5 46:-2 /3/7", x);
         Check.due("resize to 24", x.resize(0, 1, 24), 20);
@@ -133,7 +108,7 @@ public final class ValuesTest {
     }
 
     private static void resizeGetsBeforeItGivesBack() {
-        HiveKeys x = new HiveKeys();
+        Counted x = new Counted();
         x.setValue(0, 1, 4, 0);
         Check.sameFile("4", "4:6 10:2 12:6 18:3 21:5 26:-6 /2/3", x);
         x.resize(0, 1, 3);
@@ -143,7 +118,7 @@ public final class ValuesTest {
     }
 
     private static void resizeRefusesWhatItMust() {
-        HiveKeys x = new HiveKeys();
+        Counted x = new Counted();
         x.setValue(0, 1, 4, 0);
         String before = Check.fileOf(x);
         Check.throwsIndex("resize(1, 1, 0)", () -> x.resize(1, 1, 0));
@@ -159,21 +134,8 @@ public final class ValuesTest {
         Check.due("resize(0, 1, 4)", x.resize(0, 1, 4), 4);
     }
 
-    private static void resizeEndsWhenThereIsNoRoom() {
-        HiveKeys x = new HiveKeys();
-        Check.fillUp(x);
-        x.resize(1, 0, 8);
-        // 28 units are free now, side by side: not enough for the pieces of 10, 10, and 9 units.
-        x.setValue(0, 0, 0, 0);
-        String before = Check.fileOf(x);
-        Check.throwsState("resize(1, 0, 29)", () -> x.resize(1, 0, 29));
-        Check.sameFile("there was no room", before, x);
-        Check.due("resize(1, 0, 8)", x.resize(1, 0, 8), 8);
-        Check.due("unit(1, 0, 7)", x.unit(1, 0, 7), 119);
-    }
-
     private static void dropValueGivesBackAll() {
-        HiveKeys x = new HiveKeys();
+        Counted x = new Counted();
         x.setValue(0, 1, 30, 0);
         x.setValue(0, 2, 1, 2);
         x.setValue(0, 3, 9, 3);
@@ -196,7 +158,7 @@ public final class ValuesTest {
     }
 
     private static void dropValueRefusesWhatItMust() {
-        HiveKeys x = new HiveKeys();
+        Counted x = new Counted();
         x.make(0, 0);
         x.setValue(0, 1, 30, 0);
         String before = Check.fileOf(x);
@@ -210,7 +172,7 @@ public final class ValuesTest {
     }
 
     private static void unitIsWorkedOutOfTheSeed() {
-        HiveKeys x = new HiveKeys();
+        Counted x = new Counted();
         int[] seeds = {0, 1, -1, 69273666, Integer.MAX_VALUE, Integer.MIN_VALUE};
         for (int seed : seeds) {
             x.setValue(0, 99, 30, seed);
@@ -224,7 +186,7 @@ public final class ValuesTest {
     }
 
     private static void unitRefusesWhatItMust() {
-        HiveKeys x = new HiveKeys();
+        Counted x = new Counted();
         x.setValue(0, 0, 0, 0);
         x.setValue(0, 1, 1, 0);
         x.setValue(0, 2, 9, 0);

@@ -18,15 +18,15 @@ public final class WatchesTest {
     }
 
     /** The keys 1 below the root, 2 below 1, 3 below 2. */
-    private static HiveKeys chain() {
-        HiveKeys x = new HiveKeys();
+    private static Counted chain() {
+        Counted x = new Counted();
         x.make(0, 1);
         x.make(1, 2);
         x.make(2, 3);
         return x;
     }
 
-    private static void notices(String when, HiveKeys x, int... due) {
+    private static void notices(String when, Counted x, int... due) {
         for (int notice : due) {
             Check.due("takeNotice() " + when, x.takeNotice(), notice);
         }
@@ -34,7 +34,7 @@ public final class WatchesTest {
     }
 
     private static void watchAnswersWhetherThereWasNone() {
-        HiveKeys x = chain();
+        Counted x = chain();
         Check.due("watch(1, 1, false)", x.watch(1, 1, false), true);
         Check.due("watch(1, 7, true)", x.watch(1, 7, true), false);
         Check.due("watch(2, 7, true)", x.watch(2, 7, true), true);
@@ -50,7 +50,7 @@ public final class WatchesTest {
     }
 
     private static void watchRefusesWhatItMust() {
-        HiveKeys x = new HiveKeys();
+        Counted x = new Counted();
         Check.throwsIndex("watch(1, 1, true)", () -> x.watch(1, 1, true) ? 1 : 0);
         Check.throwsIndex("watch(-1, 0, true)", () -> x.watch(-1, 0, true) ? 1 : 0);
         Check.throwsIndex("watch(80, 8, true)", () -> x.watch(80, 8, true) ? 1 : 0);
@@ -65,7 +65,7 @@ public final class WatchesTest {
     }
 
     private static void subkeysAreToldOf() {
-        HiveKeys x = chain();
+        Counted x = chain();
         x.watch(1, 7, false);
         x.make(1, 10);
         notices("behind make()", x, 11);
@@ -84,7 +84,7 @@ public final class WatchesTest {
     }
 
     private static void valuesAreToldOf() {
-        HiveKeys x = chain();
+        Counted x = chain();
         x.watch(1, 7, false);
         x.setValue(1, 0, 0, 0);
         notices("behind setValue()", x, 12);
@@ -103,7 +103,7 @@ public final class WatchesTest {
     }
 
     private static void rightsAreToldOf() {
-        HiveKeys x = chain();
+        Counted x = chain();
         x.watch(1, 7, false);
         x.setRights(1, 9);
         notices("behind setRights()", x, 14);
@@ -115,7 +115,7 @@ public final class WatchesTest {
     private static void onlyTheKindsWatchedAreToldOf() {
         int[] expected = {1, 2, 1, 4, 1, 2, 1};
         for (int kinds = 1; kinds <= 7; kinds++) {
-            HiveKeys x = chain();
+            Counted x = chain();
             x.watch(1, kinds, false);
             x.make(1, 10);
             x.setValue(1, 0, 0, 0);
@@ -125,7 +125,7 @@ public final class WatchesTest {
     }
 
     private static void deepWatchesAreToldUpwards() {
-        HiveKeys x = chain();
+        Counted x = chain();
         x.watch(0, 2, true);
         x.watch(1, 7, false);
         x.watch(2, 6, true);
@@ -143,7 +143,7 @@ public final class WatchesTest {
         x.watch(2, 7, true);
         x.make(1, 0);
         notices("a deep watch is not told of what is above", x);
-        HiveKeys y = chain();
+        Counted y = chain();
         y.watch(1, 1, true);
         y.delete(3);
         notices("of 2, to 1", y, 11);
@@ -153,7 +153,7 @@ public final class WatchesTest {
     }
 
     private static void aToldWatchIsNotToldAgain() {
-        HiveKeys x = chain();
+        Counted x = chain();
         x.watch(1, 3, false);
         x.make(1, 10);
         x.setValue(1, 0, 0, 0);
@@ -167,7 +167,7 @@ public final class WatchesTest {
     }
 
     private static void watchingAnewEndsTheNotice() {
-        HiveKeys x = chain();
+        Counted x = chain();
         x.watch(1, 1, false);
         x.make(1, 10);
         x.watch(1, 2, false);
@@ -183,7 +183,7 @@ public final class WatchesTest {
     }
 
     private static void noticesComeInTheOrderOfTelling() {
-        HiveKeys x = chain();
+        Counted x = chain();
         x.watch(1, 1, false);
         x.watch(2, 2, false);
         x.watch(3, 4, false);
@@ -206,14 +206,14 @@ public final class WatchesTest {
     }
 
     private static void deletingEndsWatchAndNotice() {
-        HiveKeys x = chain();
+        Counted x = chain();
         x.watch(3, 2, false);
         x.watch(1, 1, true);
         x.setValue(3, 0, 0, 0);
         x.delete(3);
         notices("of the parent's deep watch alone", x, 11);
         Check.throwsIndex("watch(3, 1, true)", () -> x.watch(3, 1, true) ? 1 : 0);
-        HiveKeys y = chain();
+        Counted y = chain();
         y.setValue(3, 0, 0, 0);
         y.watch(2, 6, true);
         y.delete(3);
@@ -221,7 +221,7 @@ public final class WatchesTest {
     }
 
     private static void whatThrowsIsNotToldOf() {
-        HiveKeys x = chain();
+        Counted x = chain();
         x.watch(0, 7, true);
         Check.throwsState("make(0, 1)", () -> x.make(0, 1));
         Check.throwsState("rename(1, 1)", () -> x.rename(1, 1));
@@ -234,7 +234,7 @@ public final class WatchesTest {
     }
 
     private static void crashEndsAllWatches() {
-        HiveKeys x = chain();
+        Counted x = chain();
         Check.flushWhole(x);
         x.watch(0, 7, true);
         x.watch(1, 7, true);
