@@ -155,6 +155,9 @@ public final class DirtyEdgesTest {
         dirtyAre("behind a getting of 2 of 38 units", x, new int[] {122, 2}, KEY_OF_VALUES, RIGHTS_0);
         x.setRights(1, 0);
         dirtyAre("behind a giving back that joins these", x, new int[] {122, 2}, KEY_OF_VALUES, RIGHTS_0);
+        x.setValue(1, 2, 4, 0);
+        Check.due("the rest, which begins a sector", x.cell(128), -32);
+        dirtyAre("behind a getting of 6 units that end a sector", x, new int[] {122, 6}, VALUE_2, KEY_OF_VALUES);
     }
 
     /** Flushes and crashes: "the units of the cell of a key when its name" */
@@ -285,10 +288,11 @@ public final class DirtyEdgesTest {
         x.setValue(1, 3, 0, 5);
         dirtyAre("behind setValue() of that, not of the list", x, NEW_VALUE, KEY_OF_VALUES);
         x.setValue(1, 4, 0, 0);
+        int[] fifth = {169, 3};
         int[] longer = {172, 9};
-        dirtyAre("behind setValue() of a fifth, of the longer list", x, longer, new int[] {169, 3}, VALUE_LIST, KEY_OF_VALUES);
+        dirtyAre("behind setValue() of a fifth, of the longer list", x, longer, fifth, VALUE_LIST, KEY_OF_VALUES);
         x.dropValue(1, 4);
-        dirtyAre("behind dropValue() of it, of the longer list", x, longer, new int[] {169, 3}, KEY_OF_VALUES);
+        dirtyAre("behind dropValue() of it, of the longer list", x, longer, fifth, KEY_OF_VALUES);
         Counted y = valuesApart();
         y.dropValue(1, 2);
         dirtyAre("behind dropValue()", y, VALUE_LIST, VALUE_2, KEY_OF_VALUES);
@@ -337,7 +341,10 @@ public final class DirtyEdgesTest {
         Check.due("dirty() of a new registry behind a crash", x.dirty(), 0);
     }
 
-    /** Flushes and crashes: "The sectors that are dirty are those in which some unit was written since a flush began last" */
+    /**
+     * Flushes and crashes: "The sectors that are dirty are those in which some unit was written since a
+     *     flush began last"
+     */
     private static void dirtySectorsAreThoseSinceAFlushBegan() {
         Counted x = apart();
         Check.due("dirty() behind a flush", x.dirty(), 0);
@@ -384,7 +391,10 @@ public final class DirtyEdgesTest {
         Check.due("dirty() behind these", x.dirty(), 0);
     }
 
-    /** Promise 23: "Returns the sectors that are dirty." Promise 23: "Returns the sectors, as a set: bit s for sector s." */
+    /**
+     * Promise 23: "Returns the sectors that are dirty."
+     * Promise 23: "Returns the sectors, as a set: bit s for sector s."
+     */
     private static void dirtyAnswersTheFirstAndTheLastSector() {
         Counted x = new Counted();
         x.setRights(0, 1);

@@ -23,7 +23,10 @@ public final class ExceptionEdgesTest {
         Check.end("ExceptionEdgesTest");
     }
 
-    /** Flushes and crashes: "If several apply, IndexOutOfBoundsException goes first, then IllegalArgumentException." */
+    /**
+     * Flushes and crashes: "If several apply, IndexOutOfBoundsException goes first, then
+     *     IllegalArgumentException."
+     */
     private static void indexGoesAheadOfArgument() {
         for (int key : new int[] {-1, 2, 5, 80, Integer.MAX_VALUE}) {
             Twins.index("make() of no key, name -1", Builds::rich, x -> x.make(key, -1));
@@ -89,9 +92,12 @@ public final class ExceptionEdgesTest {
     private static void argumentGoesAheadOfStateInMakeLink() {
         for (int name : new int[] {-1, 10000}) {
             Twins.argument("makeLink() below a link, name " + name, Builds::rich, x -> x.makeLink(3, name, 0));
-            Twins.argument("makeLink() in a full list, name " + name, Builds::withFullList, x -> x.makeLink(0, name, 1));
-            Twins.argument("makeLink() behind 80 keys, name " + name, () -> Builds.chain(79), x -> x.makeLink(0, name, 1));
-            Twins.argument("makeLink() in a full file, name " + name, () -> Builds.withRoom(0), x -> x.makeLink(1, name, 1));
+            Twins.argument("makeLink() in a full list, name " + name, Builds::withFullList,
+                    x -> x.makeLink(0, name, 1));
+            Twins.argument("makeLink() behind 80 keys, name " + name, () -> Builds.chain(79),
+                    x -> x.makeLink(0, name, 1));
+            Twins.argument("makeLink() in a full file, name " + name, () -> Builds.withRoom(0),
+                    x -> x.makeLink(1, name, 1));
         }
     }
 
@@ -108,7 +114,8 @@ public final class ExceptionEdgesTest {
     private static void argumentGoesAheadOfStateInSetValue() {
         for (int name : new int[] {-1, 100}) {
             Twins.argument("setValue() of a link, name " + name, Builds::rich, x -> x.setValue(3, name, 0, 0));
-            Twins.argument("setValue() of a ninth, name " + name, () -> Builds.withValues(8), x -> x.setValue(0, name, 0, 0));
+            Twins.argument("setValue() of a ninth, name " + name, () -> Builds.withValues(8),
+                    x -> x.setValue(0, name, 0, 0));
         }
         for (int length : new int[] {-1, 31}) {
             Twins.argument("setValue() of a link, length " + length, Builds::rich, x -> x.setValue(3, 0, length, 0));
@@ -140,12 +147,16 @@ public final class ExceptionEdgesTest {
                 x -> x.makeLink(0, 10000, 80));
         Twins.index("makeLink() in a full file, name 10000, of no key", () -> Builds.withRoom(0),
                 x -> x.makeLink(7, 10000, 0));
-        Twins.index("resize() in a full file, of no value, length 31", () -> Builds.withRoom(0), x -> x.resize(6, 1, 31));
+        Twins.index("resize() in a full file, of no value, length 31", () -> Builds.withRoom(0),
+                x -> x.resize(6, 1, 31));
         Twins.index("setValue() in a full file, of no key, length 31", () -> Builds.withRoom(0),
                 x -> x.setValue(7, 100, 31, 0));
     }
 
-    /** Flushes and crashes: "IndexOutOfBoundsException is thrown for a key, subkey, value or unit that does not exist" */
+    /**
+     * Flushes and crashes: "IndexOutOfBoundsException is thrown for a key, subkey, value or unit that
+     *     does not exist"
+     */
     private static void anIndexIsForKeysSubkeysValuesAndUnits() {
         Twins.index("a key", Builds::rich, x -> x.place(5));
         Twins.index("a subkey", Builds::rich, x -> x.subkeyAt(1, 1));

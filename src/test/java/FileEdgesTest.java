@@ -190,7 +190,10 @@ public final class FileEdgesTest {
         Check.sameCells("2 of 2 units between used ones, and 2 at last", "4:6 10:-2 12:2 14:-2", y);
     }
 
-    /** The file: "If there is none, the file grows by a sector whose units are free, joined with a free cell ahead of them" */
+    /**
+     * The file: "If there is none, the file grows by a sector whose units are free, joined with a free
+     *     cell ahead of them"
+     */
     private static void aNewSectorIsJoinedWithTheFreeCellAhead() {
         Counted x = new Counted();
         Check.due("the free cell of a new file", x.cell(12), -4);
@@ -233,7 +236,11 @@ public final class FileEdgesTest {
         Check.due("sectors() as no more are needed", x.sectors(), 4);
     }
 
-    /** What it is: "A registry in one growing file." The file: "at most 64" The file: "and so on until there is one" */
+    /**
+     * What it is: "A registry in one growing file."
+     * The file: "at most 64"
+     * The file: "and so on until there is one"
+     */
     private static void theFileGrowsUpToItsLastUnit() {
         Counted x = Builds.withRoom(2);
         Check.due("the last free units", x.cell(1022), -2);
@@ -276,7 +283,10 @@ public final class FileEdgesTest {
         Twins.state(call + " with one unit too few", () -> Builds.withRoom(units - 1), made);
     }
 
-    /** The file: "that is large enough" The file: "there is no room" */
+    /**
+     * The file: "that is large enough"
+     * The file: "there is no room"
+     */
     private static void roomInSeveralPlacesIsNoRoomForOneCell() {
         Twins.state("make() with two holes of 3 units", FileEdgesTest::withTwoSmallHoles, x -> x.make(1, 9));
         Counted x = withTwoSmallHoles();
@@ -428,7 +438,10 @@ public final class FileEdgesTest {
         Check.sameCells("key, then leaf", "4:6 10:2 12:6 18:-4 22:3 25:5 30:5 35:-1 36:3 39:-4 43:3 46:-2", y);
     }
 
-    /** The file: "if there is no room for one of them, nothing is got at all" The file: "and the call fails" */
+    /**
+     * The file: "if there is no room for one of them, nothing is got at all"
+     * The file: "and the call fails"
+     */
     private static void noCellIsGotIfTheLastOneHasNoRoom() {
         // In these there is room for all cells but the last one.
         Twins.state("make() without room for the leaf", () -> Builds.withRoom(6), x -> x.make(2, 9));
@@ -480,7 +493,10 @@ public final class FileEdgesTest {
 
     // ---- promises 16 to 20
 
-    /** Promise 16: "Returns how many sectors the file has." Promise 16: "Returns 1 to 64." */
+    /**
+     * Promise 16: "Returns how many sectors the file has."
+     * Promise 16: "Returns 1 to 64."
+     */
     private static void sectorsAnswersOneToSixtyFour() {
         Counted x = new Counted();
         Check.due("sectors() at first", x.sectors(), 1);
@@ -491,7 +507,10 @@ public final class FileEdgesTest {
         Check.due("sectors() of a full file", Builds.withRoom(0).sectors(), 64);
     }
 
-    /** Promise 17: "`unit`: 0 to 16 * sectors - 1" Promise 17: "Throws `IndexOutOfBoundsException` if there is no such unit" */
+    /**
+     * Promise 17: "`unit`: 0 to 16 * sectors - 1"
+     * Promise 17: "Throws `IndexOutOfBoundsException` if there is no such unit"
+     */
     private static void cellTakesUnitsOfTheFileAlone() {
         Counted x = new Counted();
         Check.due("cell(0)", x.cell(0), 0);
@@ -508,7 +527,10 @@ public final class FileEdgesTest {
         Check.throwsIndex("cell(1008) of 63 sectors", () -> z.cell(1008));
     }
 
-    /** Promise 17: "Returns the cell that begins at a unit." Promise 17: "Returns its size, below 0 if it is free; 0 if none begins there." */
+    /**
+     * Promise 17: "Returns the cell that begins at a unit."
+     * Promise 17: "Returns its size, below 0 if it is free; 0 if none begins there."
+     */
     private static void cellAnswersItsSizeWhereItBegins() {
         Counted x = new Counted();
         x.setValue(0, 0, 7, 0);
@@ -532,7 +554,10 @@ public final class FileEdgesTest {
         Check.due("cell(29), within it", x.cell(29), 0);
     }
 
-    /** Promise 18: "`key`: a key" Promise 18: "Throws `IndexOutOfBoundsException` if there is no such key" */
+    /**
+     * Promise 18: "`key`: a key"
+     * Promise 18: "Throws `IndexOutOfBoundsException` if there is no such key"
+     */
     private static void placeTakesKeysThatExist() {
         Twins.noSuchKey("place()", Counted::place);
         Counted x = Builds.chain(79);
@@ -544,7 +569,10 @@ public final class FileEdgesTest {
         Check.throwsIndex("place(1) behind a crash", () -> x.place(1));
     }
 
-    /** Promise 18: "Returns where the cell of a key begins." Promise 18: "Returns the unit." */
+    /**
+     * Promise 18: "Returns where the cell of a key begins."
+     * Promise 18: "Returns the unit."
+     */
     private static void placeAnswersFromTheFirstCellToTheLast() {
         Counted x = Builds.withRoom(6);
         int key = x.make(1, 9);
@@ -553,7 +581,10 @@ public final class FileEdgesTest {
         Check.due("the root lies first", x.place(0), 4);
     }
 
-    /** Promise 19: "Returns the units of all used cells, by going through the file." Promise 19: "Returns the sum of their sizes." */
+    /**
+     * Promise 19: "Returns the units of all used cells, by going through the file."
+     * Promise 19: "Returns the sum of their sizes."
+     */
     private static void usedIsTheSumOfUsedCells() {
         Check.due("used() of a new file", new Counted().used(), 8);
         for (int room = 0; room <= 40; room++) {
@@ -565,8 +596,8 @@ public final class FileEdgesTest {
 
     /**
      * Promise 20: "Returns the same, by going through the tree from the root on: cells of keys, leaves,
-     * indexes, value lists, values, pieces, and of rights, each once." Promise 20: "Returns the sum of
-     * their sizes."
+     *     indexes, value lists, values, pieces, and of rights, each once."
+     * Promise 20: "Returns the sum of their sizes."
      */
     private static void usedByTreeCountsEachCellOnce() {
         Check.due("usedByTree() of a new file", new Counted().usedByTree(), 8);

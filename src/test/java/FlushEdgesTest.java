@@ -59,7 +59,10 @@ public final class FlushEdgesTest {
 
     // ---- flushes and crashes
 
-    /** Flushes and crashes: "A flush has a number, 1 more than that of the last whole one, which is 0 at first." */
+    /**
+     * Flushes and crashes: "A flush has a number, 1 more than that of the last whole one, which is 0 at
+     *     first."
+     */
     private static void theFirstFlushHasTheNumberOne() {
         Counted x = new Counted();
         Check.due("crash() of a new registry", x.crash(), 0);
@@ -127,7 +130,10 @@ public final class FlushEdgesTest {
         Check.due("usedByTree()", x.usedByTree(), 1020);
     }
 
-    /** Flushes and crashes: "one at the beginning of a log, k into it, one that seals it, one of the head of the file, k into the file, and one of the head again" */
+    /**
+     * Flushes and crashes: "one at the beginning of a log, k into it, one that seals it, one of the
+     *     head of the file, k into the file, and one of the head again"
+     */
     private static void theWritesComeInTheirOrder() {
         for (int write = 0; write <= 8; write++) {
             Counted x = new Counted();
@@ -144,7 +150,10 @@ public final class FlushEdgesTest {
         }
     }
 
-    /** Flushes and crashes: "It uses the logs 1 and 0 in turn: the log of the remainder of its number by 2." */
+    /**
+     * Flushes and crashes: "It uses the logs 1 and 0 in turn: the log of the remainder of its number by
+     *     2."
+     */
     private static void theLogsAreUsedInTurn() {
         Counted x = new Counted();
         logsAre("at first", x, 0, 0);
@@ -157,7 +166,10 @@ public final class FlushEdgesTest {
         }
     }
 
-    /** Flushes and crashes: "It is of the registry as it was when it began; what changes later does not belong to it." */
+    /**
+     * Flushes and crashes: "It is of the registry as it was when it began; what changes later does not
+     *     belong to it."
+     */
     private static void aFlushIsOfTheRegistryAsItWasWhenItBegan() {
         for (int write = 4; write <= 8; write++) {
             Counted x = new Counted();
@@ -220,7 +232,10 @@ public final class FlushEdgesTest {
         }
     }
 
-    /** Flushes and crashes: "A crash ends a flush that is running: if its log is sealed, it counts as whole" */
+    /**
+     * Flushes and crashes: "A crash ends a flush that is running: if its log is sealed, it counts as
+     *     whole"
+     */
     private static void aCrashWithASealedLogCountsTheFlush() {
         for (int write = 4; write <= 8; write++) {
             Counted x = withAThirdFlush();
@@ -235,7 +250,10 @@ public final class FlushEdgesTest {
         }
     }
 
-    /** Flushes and crashes: "otherwise it is as if it had not begun, but for its log, which holds nothing if its first write was done" */
+    /**
+     * Flushes and crashes: "otherwise it is as if it had not begun, but for its log, which holds
+     *     nothing if its first write was done"
+     */
     private static void aCrashWithoutASealedLogDoesNot() {
         for (int write = 1; write <= 3; write++) {
             Counted x = withAThirdFlush();
@@ -398,7 +416,10 @@ public final class FlushEdgesTest {
         }, Counted::flush);
     }
 
-    /** Promise 24: "Begins a flush." Promise 24: "Returns how many writes it has." */
+    /**
+     * Promise 24: "Begins a flush."
+     * Promise 24: "Returns how many writes it has."
+     */
     private static void flushAnswersItsWrites() {
         Counted x = new Counted();
         x.setRights(0, 1);
@@ -408,7 +429,10 @@ public final class FlushEdgesTest {
         Check.due("flush() of 63 sectors", Builds.withRoom(16).flush(), 130);
     }
 
-    /** Promise 25: "`writes`: 1 to 200" Promise 25: "Throws `IllegalArgumentException` if writes is out of range" */
+    /**
+     * Promise 25: "`writes`: 1 to 200"
+     * Promise 25: "Throws `IllegalArgumentException` if writes is out of range"
+     */
     private static void writeTakesOneTo200() {
         Twins.outOfRange("write()", 1, 200, Counted::write);
         for (int writes : new int[] {Integer.MIN_VALUE, -1, 0, 201, Integer.MAX_VALUE}) {
@@ -439,7 +463,10 @@ public final class FlushEdgesTest {
         }
     }
 
-    /** Promise 25: "Does writes of the flush that is running." Promise 25: "Returns how many writes are left." */
+    /**
+     * Promise 25: "Does writes of the flush that is running."
+     * Promise 25: "Returns how many writes are left."
+     */
     private static void writeAnswersHowManyAreLeft() {
         for (int writes = 1; writes <= 132; writes++) {
             Counted x = Builds.withRoom(0);
@@ -464,13 +491,19 @@ public final class FlushEdgesTest {
         }, x -> x.write(1));
     }
 
-    /** Promise 26: "`log`: 0 or 1" Promise 26: "Throws `IllegalArgumentException` if log is out of range" */
+    /**
+     * Promise 26: "`log`: 0 or 1"
+     * Promise 26: "Throws `IllegalArgumentException` if log is out of range"
+     */
     private static void logTakesZeroAndOne() {
         Twins.outOfRange("log()", 0, 1, Counted::log);
         logsAre("behind the flush of rich(), which is the second that began", Builds.rich(), 0, 1);
     }
 
-    /** Promise 26: "Returns what a log holds." Promise 26: "Returns the number of a flush, 0 if it holds nothing." */
+    /**
+     * Promise 26: "Returns what a log holds."
+     * Promise 26: "Returns the number of a flush, 0 if it holds nothing."
+     */
     private static void logAnswersNothingAtFirst() {
         Counted x = new Counted();
         logsAre("at first", x, 0, 0);
@@ -481,7 +514,10 @@ public final class FlushEdgesTest {
         logsAre("when it is sealed", x, 0, 1);
     }
 
-    /** Promise 27: "Crashes, and starts again." Promise 27: "Returns the number of the last whole flush." */
+    /**
+     * Promise 27: "Crashes, and starts again."
+     * Promise 27: "Returns the number of the last whole flush."
+     */
     private static void crashAnswersTheLastWholeFlush() {
         Counted x = new Counted();
         Check.due("crash() without one", x.crash(), 0);
@@ -513,12 +549,15 @@ public final class FlushEdgesTest {
         }
         Check.due("calls", y.calls(), 512);
         Counted z = new Counted();
-        for (int i = 0; i < 170; i++) {
-            z.watch(0, 7, true);
-            z.setRights(0, 1 + i);
-            Check.due("takeNotice()", z.takeNotice(), 4);
+        z.make(0, 0);
+        for (int i = 1; i <= 85; i++) {
+            z.watch(0, 4, false);
+            z.watch(1, 4, false);
+            z.setRights(1, i);
+            z.setRights(0, i);
+            Check.due("takeNotice() of what was told first", z.takeNotice(), 14);
+            Check.due("takeNotice() of what was told then", z.takeNotice(), 4);
         }
-        Check.due("the call 511", z.setValue(0, 0, 30, 0), 1);
-        Check.due("the call 512", z.usedByTree(), 8 + 38 + 3 + 5);
+        Check.due("the call 512", z.usedByTree(), 8 + 6 + 5);
     }
 }

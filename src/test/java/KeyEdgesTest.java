@@ -191,7 +191,10 @@ public final class KeyEdgesTest {
         }
     }
 
-    /** Keys and lists: "The sum of a name is the remainder of 7 times the name by 64." Keys and lists: "Subkeys are listed by rising sums" */
+    /**
+     * Keys and lists: "The sum of a name is the remainder of 7 times the name by 64."
+     * Keys and lists: "Subkeys are listed by rising sums"
+     */
     private static void theSumIsARemainder() {
         // 7 * 9 is 63, the greatest sum; 7 * 10 is 64 + 6, 7 * 55 is 6 * 64 + 1, 7 * 9999 is 1093 * 64 + 41.
         listedAre(new int[] {9, 10, 55, 9999, 1}, 55, 10, 1, 9999, 9);
@@ -438,7 +441,10 @@ public final class KeyEdgesTest {
         Check.due("list(0) with eight again", x.list(0), 298);
     }
 
-    /** Keys and lists: "An entry goes out of a list so: it is taken from its leaf; if that is empty then, its cell is given back" */
+    /**
+     * Keys and lists: "An entry goes out of a list so: it is taken from its leaf; if that is empty
+     *     then, its cell is given back"
+     */
     private static void anEmptyLeafIsGivenBack() {
         for (int leaf = 0; leaf < 3; leaf++) {
             // 1 2 3 | 4 5 6 | 7 8: the first, the middle or the last leaf goes.
@@ -490,7 +496,10 @@ public final class KeyEdgesTest {
         Twins.state("make() with room for the leaf alone", () -> Builds.withRoom(5), y -> y.make(2, 9));
     }
 
-    /** Keys and lists: "Renaming it lets an entry with the new name come into that list first, and then the old one go." */
+    /**
+     * Keys and lists: "Renaming it lets an entry with the new name come into that list first, and then
+     *     the old one go."
+     */
     private static void renamingLetsTheNewEntryInFirst() {
         // The leaf is full, so that the new entry needs a second leaf, though the old one goes.
         Counted x = Builds.withSums(1, 3, 5, 7);
@@ -543,7 +552,10 @@ public final class KeyEdgesTest {
         Check.due("find(1, 0)", x.find(1, 0), -1);
     }
 
-    /** Keys and lists: "come into that list first" Keys and lists: "the list is full" */
+    /**
+     * Keys and lists: "come into that list first"
+     * Keys and lists: "the list is full"
+     */
     private static void renamingInAFullListNeedsALeafWithRoom() {
         Counted x = Builds.withFullList();
         for (int i = 0; i < 32; i++) {
@@ -561,10 +573,10 @@ public final class KeyEdgesTest {
     }
 
     /**
-     * Keys and lists: "Deleting it gives back, in this order, the cells of its values, value by value in
-     * the order in which they were made (the pieces, then its cell; one that is set anew keeps its
-     * place), the cell of its value list, the cell of the key, the cell of its rights, if no key has
-     * these any more, and what the list of its parent gives back."
+     * Keys and lists: "Deleting it gives back, in this order, the cells of its values, value by value
+     *     in the order in which they were made (the pieces, then its cell; one that is set anew keeps
+     *     its place), the cell of its value list, the cell of the key, the cell of its rights, if no
+     *     key has these any more, and what the list of its parent gives back."
      * Promise 5: "Returns how many units are given back."
      */
     private static void deletingGivesBackTheLeastAndTheMost() {
@@ -600,7 +612,10 @@ public final class KeyEdgesTest {
         Check.due("make() of the first key", x.make(0, 0), 1);
     }
 
-    /** Promise 2: "`key`: the key whose subkey it is" Promise 2: "Throws `IndexOutOfBoundsException` if there is no such key" */
+    /**
+     * Promise 2: "`key`: the key whose subkey it is"
+     * Promise 2: "Throws `IndexOutOfBoundsException` if there is no such key"
+     */
     private static void makeTakesKeysThatExist() {
         Twins.noSuchKey("make()", (x, key) -> x.make(key, 0));
         Counted x = Builds.chain(78);
@@ -610,8 +625,10 @@ public final class KeyEdgesTest {
     }
 
     /**
-     * Promise 2: "`name`: 0 to 9999" Promise 2: "Throws `IllegalArgumentException` if name is out of range"
-     * Promise 2: "Makes a key." Promise 2: "Returns number of the subkey."
+     * Promise 2: "`name`: 0 to 9999"
+     * Promise 2: "Throws `IllegalArgumentException` if name is out of range"
+     * Promise 2: "Makes a key."
+     * Promise 2: "Returns number of the subkey."
      */
     private static void makeTakesNamesInRange() {
         Twins.outOfRange("make()", 0, 9999, (x, name) -> x.make(0, name));
@@ -672,7 +689,10 @@ public final class KeyEdgesTest {
         Check.due("make() with room for an index, too", Builds.withRoom(20).make(0, 9), 7);
     }
 
-    /** Promise 4: "`key`: a key" Promise 4: "Throws `IndexOutOfBoundsException` if there is no such key" */
+    /**
+     * Promise 4: "`key`: a key"
+     * Promise 4: "Throws `IndexOutOfBoundsException` if there is no such key"
+     */
     private static void renameTakesKeysThatExist() {
         Twins.noSuchKey("rename()", (x, key) -> x.rename(key, 77));
         Counted x = Builds.chain(79);
@@ -682,8 +702,10 @@ public final class KeyEdgesTest {
     }
 
     /**
-     * Promise 4: "Gives a key another name." Promise 4: "Returns the name before."
-     * Promise 4: "`name`: 0 to 9999" Promise 4: "Throws `IllegalArgumentException` if name is out of range"
+     * Promise 4: "Gives a key another name."
+     * Promise 4: "Returns the name before."
+     * Promise 4: "`name`: 0 to 9999"
+     * Promise 4: "Throws `IllegalArgumentException` if name is out of range"
      */
     private static void renameTakesNamesInRange() {
         Twins.outOfRange("rename()", 0, 9999, (x, name) -> x.rename(1, name));
@@ -744,7 +766,10 @@ public final class KeyEdgesTest {
         Check.due("rename() in a leaf with room", Builds.withRoom(0).rename(6, 9), 0);
     }
 
-    /** Promise 5: "`key`: a key" Promise 5: "Throws `IndexOutOfBoundsException` if there is no such key" */
+    /**
+     * Promise 5: "`key`: a key"
+     * Promise 5: "Throws `IndexOutOfBoundsException` if there is no such key"
+     */
     private static void deleteTakesKeysThatExist() {
         Twins.noSuchKey("delete()", Counted::delete);
         Counted x = Builds.chain(79);
@@ -774,7 +799,10 @@ public final class KeyEdgesTest {
         Check.due("delete() of another one", y.delete(2), 6);
     }
 
-    /** Promise 6: "`key`: a key" Promise 6: "Throws `IndexOutOfBoundsException` if there is no such key" */
+    /**
+     * Promise 6: "`key`: a key"
+     * Promise 6: "Throws `IndexOutOfBoundsException` if there is no such key"
+     */
     private static void findTakesKeysThatExist() {
         Twins.noSuchKey("find()", (x, key) -> x.find(key, 0));
         Counted x = Builds.chain(79);
@@ -783,7 +811,10 @@ public final class KeyEdgesTest {
         Check.due("find() below the last key", x.find(79, 0), -1);
     }
 
-    /** Promise 6: "`name`: 0 to 9999" Promise 6: "Throws `IllegalArgumentException` if name is out of range" */
+    /**
+     * Promise 6: "`name`: 0 to 9999"
+     * Promise 6: "Throws `IllegalArgumentException` if name is out of range"
+     */
     private static void findTakesNamesInRange() {
         Twins.outOfRange("find()", 0, 9999, (x, name) -> x.find(0, name));
         Twins.outOfRange("find() below a link", 0, 9999, (x, name) -> x.find(3, name));
@@ -792,7 +823,10 @@ public final class KeyEdgesTest {
         Check.due("find() of the greatest name, which is not there", x.find(0, 9999), -1);
     }
 
-    /** Promise 6: "Returns a subkey by its name." Promise 6: "Returns the subkey, -1 if there is none." */
+    /**
+     * Promise 6: "Returns a subkey by its name."
+     * Promise 6: "Returns the subkey, -1 if there is none."
+     */
     private static void findAnswersNothingBesideTheNames() {
         Counted x = Builds.withFullList();
         for (int sum = 0; sum < 49; sum++) {
@@ -804,7 +838,10 @@ public final class KeyEdgesTest {
         Check.due("find() below a key without subkeys", x.find(1, 0), -1);
     }
 
-    /** Promise 7: "`key`: a key" Promise 7: "Throws `IndexOutOfBoundsException` if there is no such key or subkey" */
+    /**
+     * Promise 7: "`key`: a key"
+     * Promise 7: "Throws `IndexOutOfBoundsException` if there is no such key or subkey"
+     */
     private static void subkeyAtTakesKeysThatExist() {
         Twins.noSuchKey("subkeyAt()", (x, key) -> x.subkeyAt(key, 0));
         Counted x = Builds.chain(79);
@@ -813,8 +850,10 @@ public final class KeyEdgesTest {
     }
 
     /**
-     * Promise 7: "`index`: 0 for the first subkey" Promise 7: "Returns a subkey by its place in the list."
-     * Promise 7: "Returns the subkey." Promise 7: "if there is no such key or subkey"
+     * Promise 7: "`index`: 0 for the first subkey"
+     * Promise 7: "Returns a subkey by its place in the list."
+     * Promise 7: "Returns the subkey."
+     * Promise 7: "if there is no such key or subkey"
      */
     private static void subkeyAtTakesPlacesInTheList() {
         for (int index : new int[] {Integer.MIN_VALUE, -1, 2, 3, Integer.MAX_VALUE}) {
@@ -833,7 +872,10 @@ public final class KeyEdgesTest {
         Check.throwsIndex("subkeyAt(0, 0) of none", () -> new Counted().subkeyAt(0, 0));
     }
 
-    /** Promise 8: "`key`: a key" Promise 8: "Throws `IndexOutOfBoundsException` if there is no such key" */
+    /**
+     * Promise 8: "`key`: a key"
+     * Promise 8: "Throws `IndexOutOfBoundsException` if there is no such key"
+     */
     private static void listTakesKeysThatExist() {
         Twins.noSuchKey("list()", Counted::list);
         Counted x = Builds.chain(79);
@@ -841,7 +883,10 @@ public final class KeyEdgesTest {
         Check.due("list(79)", x.list(79), 0);
     }
 
-    /** Promise 8: "Returns how many subkeys a key has, and in how many leaves." Promise 8: "Returns 10 * subkeys + leaves." */
+    /**
+     * Promise 8: "Returns how many subkeys a key has, and in how many leaves."
+     * Promise 8: "Returns 10 * subkeys + leaves."
+     */
     private static void listAnswersFromNoneToTheMost() {
         Check.due("list() of none", new Counted().list(0), 0);
         Check.due("list() of 1", Builds.withSums(1).list(0), 11);

@@ -61,7 +61,10 @@ public final class LinkEdgesTest {
         Check.due("follow() of what was its target", x.follow(1), 1);
     }
 
-    /** Keys and lists: "To follow a key is to go to it, if it is no link, and otherwise to follow its target" */
+    /**
+     * Keys and lists: "To follow a key is to go to it, if it is no link, and otherwise to follow its
+     *     target"
+     */
     private static void followingGoesToWhatIsNoLink() {
         Counted x = Builds.links(1);
         Check.due("follow() of the root", x.follow(0), 0);
@@ -95,7 +98,10 @@ public final class LinkEdgesTest {
         Check.due("find() of it", x.find(78, 9999), 79);
     }
 
-    /** Promise 3: "`target`: a key, which may be a link" Promise 3: "of either" */
+    /**
+     * Promise 3: "`target`: a key, which may be a link"
+     * Promise 3: "of either"
+     */
     private static void makeLinkTakesTargetsThatExist() {
         Twins.noSuchKey("makeLink() for the target", (x, target) -> x.makeLink(0, 0, target));
         Counted x = Builds.rich();
@@ -109,8 +115,10 @@ public final class LinkEdgesTest {
     }
 
     /**
-     * Promise 3: "`name`: 0 to 9999" Promise 3: "Throws `IllegalArgumentException` if name is out of range"
-     * Promise 3: "Makes a link." Promise 3: "Returns number of the link."
+     * Promise 3: "`name`: 0 to 9999"
+     * Promise 3: "Throws `IllegalArgumentException` if name is out of range"
+     * Promise 3: "Makes a link."
+     * Promise 3: "Returns number of the link."
      */
     private static void makeLinkTakesNamesInRange() {
         Twins.outOfRange("makeLink()", 0, 9999, (x, name) -> x.makeLink(0, name, 1));
@@ -161,7 +169,10 @@ public final class LinkEdgesTest {
         Check.due("makeLink() with room for all", Builds.withRoom(20).makeLink(0, 9, 0), 7);
     }
 
-    /** Promise 9: "`key`: a key" Promise 9: "Throws `IndexOutOfBoundsException` if there is no such key" */
+    /**
+     * Promise 9: "`key`: a key"
+     * Promise 9: "Throws `IndexOutOfBoundsException` if there is no such key"
+     */
     private static void followTakesKeysThatExist() {
         Twins.noSuchKey("follow()", Counted::follow);
         Counted x = Builds.chain(79);
@@ -169,7 +180,10 @@ public final class LinkEdgesTest {
         Check.due("follow() of the last key", x.follow(79), 79);
     }
 
-    /** Promise 9: "Follows a key." Promise 9: "Returns the key to which it leads, -1 if some target does not exist" */
+    /**
+     * Promise 9: "Follows a key."
+     * Promise 9: "Returns the key to which it leads, -1 if some target does not exist"
+     */
     private static void followAnswersNothingIfATargetHasGone() {
         for (int gone = 1; gone <= 5; gone++) {
             Counted x = Builds.links(4);

@@ -142,7 +142,10 @@ public final class RightsEdgesTest {
 
     // ---- promises 14 and 15
 
-    /** Promise 14: "`key`: a key" Promise 14: "Throws `IndexOutOfBoundsException` if there is no such key" */
+    /**
+     * Promise 14: "`key`: a key"
+     * Promise 14: "Throws `IndexOutOfBoundsException` if there is no such key"
+     */
     private static void setRightsTakesKeysThatExist() {
         Twins.noSuchKey("setRights()", (x, key) -> x.setRights(key, 1));
         Counted x = Builds.chain(79);
@@ -151,7 +154,10 @@ public final class RightsEdgesTest {
         Check.due("sharers(3)", x.sharers(3), 2);
     }
 
-    /** Promise 14: "`rights`: 0 to 255" Promise 14: "Throws `IllegalArgumentException` if rights is out of range" */
+    /**
+     * Promise 14: "`rights`: 0 to 255"
+     * Promise 14: "Throws `IllegalArgumentException` if rights is out of range"
+     */
     private static void setRightsTakesRightsInRange() {
         Twins.outOfRange("setRights()", 0, 255, (x, rights) -> x.setRights(0, rights));
         Counted x = new Counted();
@@ -159,7 +165,10 @@ public final class RightsEdgesTest {
         Check.due("setRights() to the least", x.setRights(0, 0), 255);
     }
 
-    /** Promise 14: "Sets the rights of a key." Promise 14: "Returns the rights before." */
+    /**
+     * Promise 14: "Sets the rights of a key."
+     * Promise 14: "Returns the rights before."
+     */
     private static void setRightsAnswersTheRightsBefore() {
         Counted x = Builds.chain(2);
         Check.due("setRights(1, 255)", x.setRights(1, 255), 0);
@@ -175,7 +184,10 @@ public final class RightsEdgesTest {
         Check.due("setRights() with room for 2", Builds.withRoom(2).setRights(6, 9), 0);
     }
 
-    /** Promise 15: "`rights`: 0 to 255" Promise 15: "Throws `IllegalArgumentException` if rights is out of range" */
+    /**
+     * Promise 15: "`rights`: 0 to 255"
+     * Promise 15: "Throws `IllegalArgumentException` if rights is out of range"
+     */
     private static void sharersTakesRightsInRange() {
         Twins.outOfRange("sharers()", 0, 255, Counted::sharers);
         Counted x = new Counted();
@@ -183,7 +195,10 @@ public final class RightsEdgesTest {
         Check.due("sharers(255)", x.sharers(255), 0);
     }
 
-    /** Promise 15: "Returns how many keys have some rights." Promise 15: "Returns the number." */
+    /**
+     * Promise 15: "Returns how many keys have some rights."
+     * Promise 15: "Returns the number."
+     */
     private static void sharersAnswersFromNoneToAllKeys() {
         Counted x = Builds.chain(79);
         Check.due("sharers(0) of 80 keys", x.sharers(0), 80);

@@ -67,14 +67,16 @@ public final class SentencesTest {
     private static void readTests() throws IOException {
         List<Path> files;
         try (Stream<Path> all = Files.list(TESTS)) {
-            files = all.filter(file -> file.toString().endsWith("EdgesTest.java")).sorted().collect(Collectors.toList());
+            files = all.filter(file -> file.toString().endsWith("EdgesTest.java")).sorted()
+                    .collect(Collectors.toList());
         }
         for (Path file : files) {
             String text = Files.readString(file);
             Matcher test = QUOTED_TEST.matcher(text);
             while (test.find()) {
-                readQuotations(test.group(1).replaceAll("\\s*\n\\s*\\* ?", " "));
-                Check.due(file + " runs " + test.group(2) + "()", text.contains("\n        " + test.group(2) + "();"), true);
+                readQuotations(test.group(1).replaceAll("\\s*\n\\s*\\*\\s*", " "));
+                boolean isRun = text.contains("\n        " + test.group(2) + "();");
+                Check.due(file + " runs " + test.group(2) + "()", isRun, true);
             }
         }
     }

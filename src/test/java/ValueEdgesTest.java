@@ -91,7 +91,10 @@ public final class ValueEdgesTest {
         Check.throwsArgument("setValue(0, 0, -1, 0)", () -> x.setValue(0, 0, -1, 0));
     }
 
-    /** Values: "The unit i of a value, from 0, is the number 31 * seed + 17 * i, as an int that goes round." */
+    /**
+     * Values: "The unit i of a value, from 0, is the number 31 * seed + 17 * i, as an int that goes
+     *     round."
+     */
     private static void unitsGoRound() {
         Counted x = new Counted();
         // 31 * 69273666 is 2147483646, the greatest int less 1.
@@ -119,7 +122,10 @@ public final class ValueEdgesTest {
         Check.sameCells("a value of 2", "4:6 10:2 12:4 16:3 19:5 24:-8", y);
     }
 
-    /** Values: "with a greater length it has pieces, of 8 units each, and the last one of the rest; a piece is a cell of 2 units more than it has units of the value" */
+    /**
+     * Values: "with a greater length it has pieces, of 8 units each, and the last one of the rest; a
+     *     piece is a cell of 2 units more than it has units of the value"
+     */
     private static void piecesAreOfEightUnitsAndTheRest() {
         for (int length = 2; length <= 30; length++) {
             Counted x = new Counted();
@@ -135,7 +141,10 @@ public final class ValueEdgesTest {
         }
     }
 
-    /** Values: "A key with values has a cell for its value list, of 5 units, or of 9 units from the time on when it comes to have 5 values" */
+    /**
+     * Values: "A key with values has a cell for its value list, of 5 units, or of 9 units from the time
+     *     on when it comes to have 5 values"
+     */
     private static void theListIsLongerFromFiveValuesOn() {
         Counted x = new Counted();
         for (int values = 1; values <= 8; values++) {
@@ -180,7 +189,10 @@ public final class ValueEdgesTest {
         Check.due("dropValue() of the only one", x.dropValue(0, 0), 3 + 5);
     }
 
-    /** Values: "Setting a value needs its pieces, in order, its cell, if it is a new one, and the cell of the value list, if there is none or a greater one is needed" */
+    /**
+     * Values: "Setting a value needs its pieces, in order, its cell, if it is a new one, and the cell
+     *     of the value list, if there is none or a greater one is needed"
+     */
     private static void settingNeedsPiecesCellAndList() {
         Counted x = new Counted();
         x.setValue(0, 0, 30, 0);
@@ -194,7 +206,10 @@ public final class ValueEdgesTest {
         Check.sameCells("pieces and cell", "4:6 10:2 12:3 15:5 20:4 24:3 27:-5", z);
     }
 
-    /** Values: "its cell, if it is a new one" Values: "if there is none or a greater one is needed" */
+    /**
+     * Values: "its cell, if it is a new one"
+     * Values: "if there is none or a greater one is needed"
+     */
     private static void settingAnewNeedsPiecesAlone() {
         for (int values = 1; values <= 8; values++) {
             Counted x = Builds.withValues(values);
@@ -242,7 +257,10 @@ public final class ValueEdgesTest {
         Check.sameCells("resized from " + from + " to " + to, due, x);
     }
 
-    /** Values: "Resizing it keeps those of its pieces, from the first one on, that have as many units as before" */
+    /**
+     * Values: "Resizing it keeps those of its pieces, from the first one on, that have as many units as
+     *     before"
+     */
     private static void resizingKeepsPiecesOfTheSameUnits() {
         resized(8, 9, "4:6 10:2 12:10 22:3 25:5 30:3 33:-15");
         resized(9, 8, "4:6 10:2 12:10 22:-3 25:3 28:5 33:-15");
@@ -266,7 +284,10 @@ public final class ValueEdgesTest {
         resized(8, 7, "4:6 10:2 12:-10 22:3 25:5 30:9 39:-9");
     }
 
-    /** Values: "it needs the others, in order; then those that it had in their place are given back, in order" */
+    /**
+     * Values: "it needs the others, in order; then those that it had in their place are given back, in
+     *     order"
+     */
     private static void resizingNeedsTheOthersFirst() {
         resized(0, 2, "4:6 10:2 12:3 15:5 20:4 24:-8");
         resized(1, 30, "4:6 10:2 12:3 15:5 20:10 30:10 40:10 50:8 58:-6");
@@ -289,7 +310,10 @@ public final class ValueEdgesTest {
         Check.due("resize() to the same in a full file", Builds.withRoom(0).resize(6, 0, 30), 30);
     }
 
-    /** Values: "Dropping it gives back its pieces, its cell, and the cell of the value list, if it was the last one." */
+    /**
+     * Values: "Dropping it gives back its pieces, its cell, and the cell of the value list, if it was
+     *     the last one."
+     */
     private static void droppingGivesBackPiecesCellAndList() {
         for (int length = 0; length <= 30; length++) {
             Counted x = new Counted();
@@ -305,7 +329,10 @@ public final class ValueEdgesTest {
 
     // ---- promises 10 to 13
 
-    /** Promise 10: "`key`: a key" Promise 10: "Throws `IndexOutOfBoundsException` if there is no such key" */
+    /**
+     * Promise 10: "`key`: a key"
+     * Promise 10: "Throws `IndexOutOfBoundsException` if there is no such key"
+     */
     private static void setValueTakesKeysThatExist() {
         Twins.noSuchKey("setValue()", (x, key) -> x.setValue(key, 0, 0, 0));
         Counted x = Builds.chain(79);
@@ -313,7 +340,10 @@ public final class ValueEdgesTest {
         Check.due("setValue() of the last key", x.setValue(79, 0, 0, 0), 1);
     }
 
-    /** Promise 10: "`name`: 0 to 99" Promise 10: "Throws `IllegalArgumentException` if name or length is out of range" */
+    /**
+     * Promise 10: "`name`: 0 to 99"
+     * Promise 10: "Throws `IllegalArgumentException` if name or length is out of range"
+     */
     private static void setValueTakesNamesInRange() {
         Twins.outOfRange("setValue() of names", 0, 99, (x, name) -> x.setValue(0, name, 0, 0));
         Counted x = new Counted();
@@ -322,7 +352,10 @@ public final class ValueEdgesTest {
         Check.due("resize() of it", x.resize(0, 99, 1), 0);
     }
 
-    /** Promise 10: "`length`: 0 to 30" Promise 10: "if name or length is out of range" */
+    /**
+     * Promise 10: "`length`: 0 to 30"
+     * Promise 10: "if name or length is out of range"
+     */
     private static void setValueTakesLengthsInRange() {
         Twins.outOfRange("setValue() of lengths", 0, 30, (x, length) -> x.setValue(0, 0, length, 0));
         Twins.outOfRange("setValue() anew of lengths", 0, 30, (x, length) -> x.setValue(1, 0, length, 0));
@@ -344,7 +377,10 @@ public final class ValueEdgesTest {
         }
     }
 
-    /** Promise 10: "Sets a value, in place of the one that there may be." Promise 10: "Returns how many values the key has then." */
+    /**
+     * Promise 10: "Sets a value, in place of the one that there may be."
+     * Promise 10: "Returns how many values the key has then."
+     */
     private static void setValueAnswersOneToEight() {
         Counted x = new Counted();
         for (int values = 1; values <= 8; values++) {
@@ -386,7 +422,8 @@ public final class ValueEdgesTest {
     }
 
     /**
-     * Promise 11: "`key`: a key" Promise 11: "`name`: 0 to 99"
+     * Promise 11: "`key`: a key"
+     * Promise 11: "`name`: 0 to 99"
      * Promise 11: "Throws `IndexOutOfBoundsException` if there is no such key or value"
      */
     private static void resizeTakesKeysAndValuesThatExist() {
@@ -404,7 +441,10 @@ public final class ValueEdgesTest {
         Check.throwsIndex("resize() of one that was dropped", () -> x.resize(0, 99, 5));
     }
 
-    /** Promise 11: "`length`: 0 to 30" Promise 11: "Throws `IllegalArgumentException` if length is out of range" */
+    /**
+     * Promise 11: "`length`: 0 to 30"
+     * Promise 11: "Throws `IllegalArgumentException` if length is out of range"
+     */
     private static void resizeTakesLengthsInRange() {
         Twins.outOfRange("resize()", 0, 30, (x, length) -> x.resize(1, 0, length));
         Twins.outOfRange("resize() of no unit", 0, 30, (x, length) -> x.resize(1, 1, length));
@@ -414,7 +454,10 @@ public final class ValueEdgesTest {
         Check.due("resize() from it", x.resize(0, 0, 1), 0);
     }
 
-    /** Promise 11: "Lets a value have another length, with the same seed." Promise 11: "Returns the length before." */
+    /**
+     * Promise 11: "Lets a value have another length, with the same seed."
+     * Promise 11: "Returns the length before."
+     */
     private static void resizeAnswersTheLengthBefore() {
         Counted x = new Counted();
         x.setValue(0, 0, 30, Integer.MIN_VALUE);
@@ -450,7 +493,8 @@ public final class ValueEdgesTest {
     }
 
     /**
-     * Promise 12: "`key`: a key" Promise 12: "`name`: 0 to 99"
+     * Promise 12: "`key`: a key"
+     * Promise 12: "`name`: 0 to 99"
      * Promise 12: "Throws `IndexOutOfBoundsException` if there is no such key or value"
      */
     private static void dropValueTakesKeysAndValuesThatExist() {
@@ -467,7 +511,10 @@ public final class ValueEdgesTest {
         Check.throwsIndex("dropValue() of it again", () -> x.dropValue(0, 0));
     }
 
-    /** Promise 12: "Drops a value." Promise 12: "Returns how many units are given back." */
+    /**
+     * Promise 12: "Drops a value."
+     * Promise 12: "Returns how many units are given back."
+     */
     private static void dropValueAnswersTheLeastAndTheMost() {
         Counted x = Builds.withValues(5);
         Check.due("dropValue(), the least", x.dropValue(0, 4), 3);
@@ -492,7 +539,8 @@ public final class ValueEdgesTest {
     }
 
     /**
-     * Promise 13: "`key`: a key" Promise 13: "`name`: 0 to 99"
+     * Promise 13: "`key`: a key"
+     * Promise 13: "`name`: 0 to 99"
      * Promise 13: "Throws `IndexOutOfBoundsException` if there is no such key, value or unit"
      */
     private static void unitTakesKeysAndValuesThatExist() {
@@ -508,7 +556,10 @@ public final class ValueEdgesTest {
         Check.due("unit() of the greatest name", x.unit(0, 99, 0), 62);
     }
 
-    /** Promise 13: "`unit`: 0 to the length less 1" Promise 13: "if there is no such key, value or unit" */
+    /**
+     * Promise 13: "`unit`: 0 to the length less 1"
+     * Promise 13: "if there is no such key, value or unit"
+     */
     private static void unitTakesUnitsOfTheValue() {
         for (int unit : new int[] {Integer.MIN_VALUE, -1, 20, 30, Integer.MAX_VALUE}) {
             Twins.index("unit() of 20 with " + unit, Builds::rich, x -> x.unit(1, 0, unit));
@@ -526,7 +577,10 @@ public final class ValueEdgesTest {
         Check.throwsIndex("a unit that was there", () -> x.unit(0, 0, 8));
     }
 
-    /** Promise 13: "Returns a unit of a value." Promise 13: "Returns the number of the unit." */
+    /**
+     * Promise 13: "Returns a unit of a value."
+     * Promise 13: "Returns the number of the unit."
+     */
     private static void unitAnswersTheNumber() {
         Counted x = new Counted();
         x.setValue(0, 0, 30, Integer.MAX_VALUE);

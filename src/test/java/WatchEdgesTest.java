@@ -51,7 +51,10 @@ public final class WatchEdgesTest {
 
     // ---- watches
 
-    /** Watches: "A watch of a key has kinds of changes, told by a number: 1 for subkeys (one is made, renamed or deleted)" */
+    /**
+     * Watches: "A watch of a key has kinds of changes, told by a number: 1 for subkeys (one is made,
+     *     renamed or deleted)"
+     */
     private static void makingRenamingAndDeletingAreChangesOfSubkeys() {
         Counted x = watched(SUBKEYS, false);
         x.make(1, 1);
@@ -122,7 +125,10 @@ public final class WatchEdgesTest {
         notices("behind setRights() to others", x, 14);
     }
 
-    /** Watches: "added" Watches: "if they have its kind" */
+    /**
+     * Watches: "added"
+     * Watches: "if they have its kind"
+     */
     private static void kindsAreAdded() {
         for (int kinds = 1; kinds <= 7; kinds++) {
             for (int kind = 1; kind <= 4; kind *= 2) {
@@ -191,7 +197,10 @@ public final class WatchEdgesTest {
         notices("behind makeLink(), not of its target", x, 1);
     }
 
-    /** Watches: "The watch of this key is told of it, and then, one after the other upwards, so are the deep watches of all keys above" */
+    /**
+     * Watches: "The watch of this key is told of it, and then, one after the other upwards, so are the
+     *     deep watches of all keys above"
+     */
     private static void theKeyIsToldFirstAndThenUpwards() {
         Counted x = Builds.chain(79);
         for (int key = 0; key < 80; key++) {
@@ -298,7 +307,10 @@ public final class WatchEdgesTest {
         Check.due("watch() of another key of that name", y.watch(4, 7, true), true);
     }
 
-    /** Watches: "1 for subkeys (one is made, renamed or deleted)" Watches: "or dropped" */
+    /**
+     * Watches: "1 for subkeys (one is made, renamed or deleted)"
+     * Watches: "or dropped"
+     */
     private static void deletingIsAChangeOfSubkeysAlone() {
         Counted x = Builds.chain(3);
         x.setValue(3, 0, 30, 0);
@@ -330,7 +342,10 @@ public final class WatchEdgesTest {
 
     // ---- promises 21 and 22
 
-    /** Promise 21: "`key`: a key" Promise 21: "Throws `IndexOutOfBoundsException` if there is no such key" */
+    /**
+     * Promise 21: "`key`: a key"
+     * Promise 21: "Throws `IndexOutOfBoundsException` if there is no such key"
+     */
     private static void watchTakesKeysThatExist() {
         Twins.noSuchKey("watch()", (x, key) -> x.watch(key, 1, true) ? 1 : 0);
         Counted x = Builds.chain(79);
@@ -339,7 +354,10 @@ public final class WatchEdgesTest {
         Check.due("watch() of a link", Builds.links(1).watch(2, 1, true), true);
     }
 
-    /** Promise 21: "`kinds`: 1 to 7" Promise 21: "Throws `IllegalArgumentException` if kinds is out of range" */
+    /**
+     * Promise 21: "`kinds`: 1 to 7"
+     * Promise 21: "Throws `IllegalArgumentException` if kinds is out of range"
+     */
     private static void watchTakesKindsInRange() {
         Twins.outOfRange("watch()", 1, 7, (x, kinds) -> x.watch(1, kinds, true) ? 1 : 0);
         Twins.outOfRange("watch() of one without", 1, 7, (x, kinds) -> new Counted().watch(0, kinds, false) ? 1 : 0);
@@ -386,7 +404,10 @@ public final class WatchEdgesTest {
         notices("told anew, and so told last", x, 24, 14);
     }
 
-    /** Promise 21: "Returns true if it had no watch; a told one, whose notice was taken or not, is a watch still." */
+    /**
+     * Promise 21: "Returns true if it had no watch; a told one, whose notice was taken or not, is a
+     *     watch still."
+     */
     private static void watchAnswersWhetherThereWasNone() {
         Counted x = Builds.chain(2);
         Check.due("watch() of none", x.watch(1, 1, false), true);
