@@ -43,6 +43,14 @@ public final class FaceTest {
         "int crash()",
     };
 
+    private static final List<String> FACE_IN_ORDER = List.of(
+        "---- keys", "make", "makeLink", "rename", "delete", "find", "subkeyAt", "list", "follow",
+        "---- values", "setValue", "resize", "dropValue", "unit",
+        "---- rights", "setRights", "sharers",
+        "---- cells", "sectors", "cell", "place", "used", "usedByTree",
+        "---- watches", "watch", "takeNotice",
+        "---- flushes and crashes", "dirty", "flush", "write", "log", "crash");
+
     /** What the program may not hold, by the rules of LANGUAGE.md. */
     private static final String[] RULED_OUT = {"->", "::", "\\bcatch\\b", "\\bfinally\\b", "\\bsynchronized\\b",
         "\\bassert\\b", "\\binstanceof\\b", "\\bpackage\\b", "\\bString\\b", "\\bSystem\\.(?!arraycopy\\()",
@@ -59,6 +67,7 @@ public final class FaceTest {
         classesAreSmall();
         objectsAreSmall();
         String program = Files.readString(Path.of("src/main/java/HiveKeys.java"));
+        callsHaveTheirHeadings(program);
         textKeepsToTheRules(program.replaceAll("(?s)/\\*.*?\\*/|//[^\n]*|\"[^\"\n]*\"", ""));
         Check.end("FaceTest");
     }
@@ -83,6 +92,18 @@ public final class FaceTest {
         Check.due("it is public", Modifier.isPublic(constructors[0].getModifiers()), true);
         for (Field field : face.getDeclaredFields()) {
             Check.due(field.getName() + " is private", Modifier.isPrivate(field.getModifiers()), true);
+        }
+    }
+
+    /** "Ahead of the calls .. the interface says: ---- keys.", and so on. */
+    private static void callsHaveTheirHeadings(String program) {
+        Matcher said = Pattern.compile("(?m)^    (?:// (---- .*)|public \\w+ (\\w+)\\()").matcher(program);
+        List<String> got = new ArrayList<>();
+        while (got.size() < FACE_IN_ORDER.size() && said.find()) {
+            got.add(said.group(1) != null ? said.group(1) : said.group(2));
+        }
+        if (!got.equals(FACE_IN_ORDER)) {
+            Check.fail("the calls and their headings are " + got + ", due are " + FACE_IN_ORDER);
         }
     }
 
